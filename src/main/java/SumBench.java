@@ -853,6 +853,10 @@ public final class SumBench {
 
         /** Whether x is one of a ROW in the set: then it has its neighbour there, ahead or behind. */
         private boolean hasRow(long set, int x, int steps) {
+            if (ground.sort == THREES) {
+                // The third step comes back to x: no ROW of more than 3 is of unlike ones.
+                return false;
+            }
             long rest = set & ~(1L << x);
             for (int left = Long.bitCount(rest); left > 0; left--) {
                 int d = ground.mix(1, least(rest), -1, x);
