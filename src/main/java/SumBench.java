@@ -633,7 +633,10 @@ public final class SumBench {
         private final int[] found = new int[TOLD];
         /** Behind MOST_MULTIPLE + v: the numbers z with - c z = v for the LAW in hand. */
         private final long[] answers = new long[2 * MOST_MULTIPLE + 1];
-        /** At x and y: all z for which x, y and z, some of which may be the same, are those of a CLASH. */
+        /**
+         * At x and y: numbers z for which x, y and z, some of which may be the same, are all those of a CLASH.
+         * A CLASH stands at each of its numbers once at least.
+         */
         private final long[] thirds = new long[WIDE * WIDE];
         private boolean tabled = false;
 
@@ -904,16 +907,11 @@ public final class SumBench {
             long rest = zs;
             for (int left = Long.bitCount(zs); left > 0; left--) {
                 int r = law.c == 0 ? p : least(rest);
-                enterPair(p, q, r);
-                enterPair(p, r, q);
-                enterPair(q, r, p);
+                thirds[p * WIDE + q] |= 1L << r;
+                thirds[q * WIDE + p] |= 1L << r;
+                thirds[r * WIDE + p] |= 1L << q;
                 rest &= rest - 1;
             }
-        }
-
-        private void enterPair(int p, int q, int r) {
-            thirds[p * WIDE + q] |= 1L << r;
-            thirds[q * WIDE + p] |= 1L << r;
         }
     }
 
@@ -1065,10 +1063,7 @@ public final class SumBench {
         /** What stands at earlier places is that of the CASE from which this one comes. */
         private void give(int place, int colour) {
             if (place == 0) {
-                used[0] = 0;
-                for (int i = 0; i < MOST_COLOURS; i++) {
-                    groups[i] = 0;
-                }
+                // The beginning gives none: nothing is ever had there.
                 return;
             }
             given[place] = colour;
@@ -1099,7 +1094,7 @@ public final class SumBench {
         }
     }
 
-    /** The sets listed, in ORDER, and their KINDS by the TURNS that were asked for last. */
+    /** The sets listed, in ORDER, and their KINDS by the TURNS that were asked for last; it is cleared before it is filled. */
     private static final class Listing {
         private static final int BACK = 1;
         private static final int MOVE = 2;
@@ -1130,7 +1125,6 @@ public final class SumBench {
             }
             rows[many] = set;
             many++;
-            turnsKnown = NONE;
             return true;
         }
 

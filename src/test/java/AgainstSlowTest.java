@@ -77,7 +77,8 @@ public final class AgainstSlowTest {
 
     private Object[] groundArgs() {
         int newSort = pick(20) == 0 ? pick(-1, 3) : pick(3);
-        int newN = newSort == 2 ? pick(0, pick(3) == 0 ? 4 : 2) : pick(pick(3) == 0 ? 0 : 3, pick(4) == 0 ? 20 : 12);
+        int most = pick(4) != 0 ? 12 : pick(8) != 0 ? 20 : 61;
+        int newN = newSort == 2 ? pick(0, pick(3) == 0 ? 4 : 2) : pick(pick(3) == 0 ? 0 : 3, most);
         return new Object[] {newSort, odd(ODD, newN)};
     }
 

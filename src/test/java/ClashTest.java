@@ -103,6 +103,9 @@ public final class ClashTest {
         clashIs(bench(0, 20, 4, 1, -1, 0, true), null, 5, 6);
         clashIs(bench(0, 60, 4, 9, 9, -9, true), "(20 40 60 0)", 20, 40, 60);
         clashIs(bench(0, 60, 4, 9, 9, -1, false), null, 50, 60);
+        clashIs(bench(0, 60, 4, -9, 0, 9, false), "(60 0 60 0)", 60);
+        clashIs(bench(0, 60, 4, 9, -9, 0, false), "(60 60 0 0)", 60);
+        clashIs(bench(0, 60, 4, 0, 9, -9, false), "(0 60 60 0)", 60);
         clashIs(bench(0, 60, 4, -9, 1, 1, false), "(10 30 60 0)", 10, 30, 60);
         clashIs(bench(1, 6, 4, 2, 2, 2, false), "(1 1 1 0)", 1);
         clashIs(bench(1, 6, 4, 2, 2, 2, false), "(0 0 0 0)", 0, 1, 2, 5);

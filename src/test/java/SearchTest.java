@@ -141,8 +141,16 @@ public final class SearchTest {
         Due.is("300", x.look(4), 300);
         Due.is("all by themselves", x.kinds(0), 300);
         SlowBench slow = new SlowBench();
+        slow.ground(1, 19);
+        slow.law(4, 1, 1, -3, true);
+        slow.list(50000);
+        for (int turns = 0; turns < 8; turns++) {
+            Due.is("kinds of 300 by " + turns, x.kinds(turns), slow.kinds(turns));
+            for (int what = 0; what < 3; what++) {
+                Due.is("the third kind", x.kind(turns, 2, what), slow.kind(turns, 2, what));
+            }
+        }
         x.ground(1, 18);
-        slow.ground(1, 18);
         // One of each x and - x: 2 to the 8th, and with 20 numbers 2 to the 9th.
         x.law(4, 1, 1, 0, true);
         Due.is("256", x.list(50000), 256);
@@ -159,6 +167,9 @@ public final class SearchTest {
         int second = slow.look(5) - first;
         Due.is("looks just enough for the 301st", x.list(Math.max(first, second)), -2);
         Due.is("one fewer", x.list(second - 1), -1);
+        x.list(50000);
+        x.drop();
+        Due.is("the next list is not too long", x.list(50000), 1);
     }
 
     private static String kindsOf(SumBench x, int turns) {
