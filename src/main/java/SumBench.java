@@ -182,6 +182,7 @@ public final class SumBench {
         if (laws.firstClash(sets[k]) != NONE) {
             return BREAKS_LAWS;
         }
+        laws.makeReady();
         for (int x = ground.first; x <= ground.last; x++) {
             if (!ground.isIn(sets[k], x) && laws.keepWith(sets[k], x)) {
                 return x;
@@ -193,7 +194,7 @@ public final class SumBench {
     public int greatest(int k, int looks) throws IndexOutOfBoundsException, IllegalArgumentException {
         requireSet(k);
         requireLooks(looks);
-        search.findGreatest(looks);
+        search.walk(Search.GREATEST, 0, looks);
         looked = search.looked;
         if (search.bestSize == NONE) {
             return -1;
@@ -205,12 +206,12 @@ public final class SumBench {
     public int list(int looks) throws IllegalArgumentException {
         requireLooks(looks);
         listing.clear();
-        search.findGreatest(looks);
+        search.walk(Search.GREATEST, 0, looks);
         looked = search.looked;
         if (search.spent) {
             return NONE;
         }
-        search.findAll(search.bestSize, looks);
+        search.walk(Search.LIST, search.bestSize, looks);
         looked += search.looked;
         if (search.spent || search.overfull) {
             listing.clear();
@@ -254,7 +255,7 @@ public final class SumBench {
 
     public int count(int looks) throws IllegalArgumentException {
         requireLooks(looks);
-        search.countAll(looks);
+        search.walk(Search.COUNT, 0, looks);
         looked = search.looked;
         return search.spent ? NONE : search.counted;
     }
@@ -323,6 +324,7 @@ public final class SumBench {
         if (seed < 0 || seed >= SEEDS) {
             throw new IllegalArgumentException("no such seed");
         }
+        laws.makeReady();
         long set = 0;
         long unasked = ground.full;
         int now = seed;
@@ -510,7 +512,8 @@ public final class SumBench {
             int made = 0;
             int digit = 1;
             for (int i = 0; i < n; i++) {
-                made += digit * Math.floorMod(a * (x / digit % 3) + b * (y / digit % 3), 3);
+                int rest = (a * (x / digit % 3) + b * (y / digit % 3)) % 3;
+                made += digit * (rest < 0 ? rest + 3 : rest);
                 digit *= 3;
             }
             return made;
@@ -532,18 +535,28 @@ public final class SumBench {
                 case RESTS:
                     return (set << by | set >>> n - by) & full;
                 case THREES:
-                    return mapped(set, 1, by);
+                    return movedThrees(set, by);
                 default:
                     return (by < 0 ? set >>> -by : set << by) & full;
             }
         }
 
-        /** All a x + by with x of a set: for sorts whose numbers never leave the GROUND. */
-        long mapped(long set, int a, int by) {
+        private long movedThrees(long set, int by) {
             long made = 0;
             for (int x = first; x <= last; x++) {
                 if ((set >>> x & 1) != 0) {
-                    made |= 1L << mix(a, x, 1, by);
+                    made |= 1L << mixThrees(1, x, 1, by);
+                }
+            }
+            return made;
+        }
+
+        /** All a x with x of a set: for sorts whose numbers never leave the GROUND. */
+        long stretched(long set, int a) {
+            long made = 0;
+            for (int x = first; x <= last; x++) {
+                if ((set >>> x & 1) != 0) {
+                    made |= 1L << mix(a, x, 0, 0);
                 }
             }
             return made;
@@ -819,11 +832,11 @@ public final class SumBench {
             return v >= -MOST_MULTIPLE && v <= MOST_MULTIPLE ? answers[MOST_MULTIPLE + v] : 0;
         }
 
-        /** Whether a set that KEEPS the LAWS does so with x, too: only CLASHES with x need a look. */
+        /**
+         * Whether a set that KEEPS the LAWS does so with x, too: only CLASHES with x need a look.
+         * makeReady() must come first: it is no part of this, so that calls do not go too deep.
+         */
         boolean keepWith(long set, int x) {
-            if (!tabled) {
-                makeTable();
-            }
             long all = set | 1L << x;
             long rest = all;
             for (int left = Long.bitCount(all); left > 0; left--) {
@@ -871,7 +884,10 @@ public final class SumBench {
             return false;
         }
 
-        private void makeTable() {
+        void makeReady() {
+            if (tabled) {
+                return;
+            }
             Arrays.fill(thirds, 0L);
             for (int i = 0; i < many; i++) {
                 if (rows[i].kind != APART && !rows[i].isLongRow()) {
@@ -943,24 +959,13 @@ public final class SumBench {
             this.listing = listing;
         }
 
-        void findGreatest(int looks) {
-            bestSize = NONE;
-            walk(GREATEST, 0, looks);
-        }
-
-        /** All sets of the size of a GREATEST go to the listing, which is empty. */
-        void findAll(int size, int looks) {
-            walk(LIST, size, looks);
-        }
-
-        void countAll(int looks) {
-            counted = 0;
-            walk(COUNT, 0, looks);
-        }
-
-        private void walk(int newAim, int newFloor, int looks) {
+        /** With the aim LIST the sets go to the listing, which must be empty, and the floor is the size of a GREATEST. */
+        void walk(int newAim, int newFloor, int looks) {
+            laws.makeReady();
             aim = newAim;
             floor = newFloor;
+            bestSize = NONE;
+            counted = 0;
             overfull = false;
             top = 0;
             pile(0, ground.first);
@@ -1036,6 +1041,7 @@ public final class SumBench {
 
         /** Parts the numbers from the first of the GROUND to the last told. */
         int part(int last, int many, int looks) {
+            laws.makeReady();
             int places = last - ground.first + 1;
             top = 0;
             pile(0, NONE);
@@ -1179,7 +1185,7 @@ public final class SumBench {
 
         /** Set i by all TURNS that take x a-fold (of sort 0: -1 is to mirror) and then may move it. */
         private void turnBy(int a, int i, int turns) {
-            long base = stretched(rows[i], a);
+            long base = timesFactor(rows[i], a);
             if (ground.sort == NUMBERS || (turns & MOVE) == 0) {
                 meet(base, i);
                 return;
@@ -1189,11 +1195,11 @@ public final class SumBench {
             }
         }
 
-        private long stretched(long set, int a) {
+        private long timesFactor(long set, int a) {
             if (a == 1) {
                 return set;
             }
-            return ground.sort == NUMBERS ? ground.mirrored(set) : ground.mapped(set, a, 0);
+            return ground.sort == NUMBERS ? ground.mirrored(set) : ground.stretched(set, a);
         }
 
         /** A TURN makes this set of set i, the first of the KIND that is open. */
