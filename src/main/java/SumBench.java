@@ -1100,7 +1100,7 @@ public final class SumBench {
         }
     }
 
-    /** The sets listed, in ORDER, and their KINDS by the TURNS that were asked for last; it is cleared before it is filled. */
+    /** The sets listed, in ORDER, and their KINDS by the TURNS that were asked for last. Cleared before it is filled. */
     private static final class Listing {
         private static final int BACK = 1;
         private static final int MOVE = 2;

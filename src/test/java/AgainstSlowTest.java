@@ -3,8 +3,10 @@ import java.lang.reflect.Method;
 import java.util.ArrayList;
 import java.util.Arrays;
 import java.util.List;
+import java.util.function.IntBinaryOperator;
+import java.util.function.IntUnaryOperator;
 
-/** Promises 1 to 28: runs of many calls, right and wrong ones, on a SumBench and a SlowBench, whose answers must be the same. */
+/** Promises 1 to 28: runs of many calls, right and wrong ones, which a SumBench and a SlowBench must answer alike. */
 public final class AgainstSlowTest {
     private static final int RUNS = 1500;
     private static final int CALLS = 120;
@@ -135,41 +137,32 @@ public final class AgainstSlowTest {
     }
 
     private static String state(SumBench x) {
-        StringBuilder text = new StringBuilder();
-        for (int k = 0; k < 8; k++) {
-            text.append(Due.set(x, k));
-        }
-        for (int what = 0; what < 7; what++) {
-            text.append(' ').append(x.look(what));
-        }
-        for (int i = 0; i < 4; i++) {
-            int place = i;
-            text.append(" w").append(Due.outcome(() -> x.witness(place)));
-        }
-        for (int y = 0; y <= 60; y++) {
-            text.append(' ').append(x.colour(y));
-        }
-        return text.toString();
+        return state(x::size, x::at, x::look, x::witness, x::colour);
     }
 
     private static String state(SlowBench x) {
+        return state(x::size, x::at, x::look, x::witness, x::colour);
+    }
+
+    private static String state(IntUnaryOperator size, IntBinaryOperator at, IntUnaryOperator look,
+            IntUnaryOperator witness, IntUnaryOperator colour) {
         StringBuilder text = new StringBuilder();
         for (int k = 0; k < 8; k++) {
             text.append("(");
-            for (int i = 0; i < x.size(k); i++) {
-                text.append(i == 0 ? "" : " ").append(x.at(k, i));
+            for (int i = 0; i < size.applyAsInt(k); i++) {
+                text.append(' ').append(at.applyAsInt(k, i));
             }
             text.append(")");
         }
         for (int what = 0; what < 7; what++) {
-            text.append(' ').append(x.look(what));
+            text.append(' ').append(look.applyAsInt(what));
         }
         for (int i = 0; i < 4; i++) {
             int place = i;
-            text.append(" w").append(Due.outcome(() -> x.witness(place)));
+            text.append(" w").append(Due.outcome(() -> witness.applyAsInt(place)));
         }
         for (int y = 0; y <= 60; y++) {
-            text.append(' ').append(x.colour(y));
+            text.append(' ').append(colour.applyAsInt(y));
         }
         return text.toString();
     }

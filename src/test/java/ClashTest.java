@@ -5,13 +5,6 @@ public final class ClashTest {
     private ClashTest() {
     }
 
-    private static SumBench bench(int sort, int n, int kind, int a, int b, int c, boolean unlike) {
-        SumBench x = new SumBench();
-        x.ground(sort, n);
-        Due.is("law", x.law(kind, a, b, c, unlike), 0);
-        return x;
-    }
-
     private static String witness(SumBench x) {
         return "(" + x.witness(0) + " " + x.witness(1) + " " + x.witness(2) + " " + x.witness(3) + ")";
     }
@@ -28,100 +21,100 @@ public final class ClashTest {
     }
 
     private static void rows() {
-        SumBench x = bench(0, 20, 0, 3, 0, 0, false);
+        SumBench x = Due.bench(0, 20, 0, 3, 0, 0, false);
         clashIs(x, null);
         clashIs(x, null, 1, 2, 4, 5, 10, 11, 13, 14);
         clashIs(x, "(1 2 0 0)", 1, 2, 3);
         clashIs(x, "(2 11 0 0)", 2, 11, 20);
         clashIs(x, "(4 6 0 0)", 1, 4, 6, 8, 12);
-        clashIs(bench(0, 20, 0, 4, 0, 0, true), "(2 4 0 0)", 1, 2, 4, 6, 8);
-        clashIs(bench(0, 20, 0, 4, 0, 0, true), null, 1, 2, 3, 5, 6, 8);
-        clashIs(bench(0, 60, 0, 6, 0, 0, false), "(10 20 0 0)", 10, 20, 30, 40, 50, 60);
-        clashIs(bench(0, 60, 0, 6, 0, 0, false), null, 1, 2, 3, 4, 5, 7, 8, 9, 10);
-        clashIs(bench(0, 60, 0, 5, 0, 0, false), "(1 2 0 0)", 1, 2, 3, 4, 5);
-        clashIs(bench(1, 7, 0, 3, 0, 0, false), "(0 3 0 0)", 0, 3, 6);
-        clashIs(bench(1, 7, 0, 3, 0, 0, false), "(0 4 0 0)", 0, 1, 4);
-        clashIs(bench(1, 4, 0, 3, 0, 0, false), null, 0, 2);
-        clashIs(bench(1, 4, 0, 3, 0, 0, false), "(1 2 0 0)", 1, 2, 3);
-        clashIs(bench(1, 3, 0, 3, 0, 0, false), "(0 1 0 0)", 0, 1, 2);
-        clashIs(bench(1, 3, 0, 4, 0, 0, false), null, 0, 1, 2);
-        clashIs(bench(1, 6, 0, 4, 0, 0, false), null, 0, 2, 4);
-        clashIs(bench(1, 6, 0, 4, 0, 0, false), "(1 0 0 0)", 0, 1, 4, 5);
-        clashIs(bench(2, 2, 0, 3, 0, 0, false), "(0 4 0 0)", 0, 4, 8);
-        clashIs(bench(2, 2, 0, 3, 0, 0, false), "(1 5 0 0)", 1, 5, 6);
-        clashIs(bench(2, 2, 0, 3, 0, 0, false), null, 0, 1, 3, 4);
-        clashIs(bench(2, 1, 0, 4, 0, 0, false), null, 0, 1, 2);
+        clashIs(Due.bench(0, 20, 0, 4, 0, 0, true), "(2 4 0 0)", 1, 2, 4, 6, 8);
+        clashIs(Due.bench(0, 20, 0, 4, 0, 0, true), null, 1, 2, 3, 5, 6, 8);
+        clashIs(Due.bench(0, 60, 0, 6, 0, 0, false), "(10 20 0 0)", 10, 20, 30, 40, 50, 60);
+        clashIs(Due.bench(0, 60, 0, 6, 0, 0, false), null, 1, 2, 3, 4, 5, 7, 8, 9, 10);
+        clashIs(Due.bench(0, 60, 0, 5, 0, 0, false), "(1 2 0 0)", 1, 2, 3, 4, 5);
+        clashIs(Due.bench(1, 7, 0, 3, 0, 0, false), "(0 3 0 0)", 0, 3, 6);
+        clashIs(Due.bench(1, 7, 0, 3, 0, 0, false), "(0 4 0 0)", 0, 1, 4);
+        clashIs(Due.bench(1, 4, 0, 3, 0, 0, false), null, 0, 2);
+        clashIs(Due.bench(1, 4, 0, 3, 0, 0, false), "(1 2 0 0)", 1, 2, 3);
+        clashIs(Due.bench(1, 3, 0, 3, 0, 0, false), "(0 1 0 0)", 0, 1, 2);
+        clashIs(Due.bench(1, 3, 0, 4, 0, 0, false), null, 0, 1, 2);
+        clashIs(Due.bench(1, 6, 0, 4, 0, 0, false), null, 0, 2, 4);
+        clashIs(Due.bench(1, 6, 0, 4, 0, 0, false), "(1 0 0 0)", 0, 1, 4, 5);
+        clashIs(Due.bench(2, 2, 0, 3, 0, 0, false), "(0 4 0 0)", 0, 4, 8);
+        clashIs(Due.bench(2, 2, 0, 3, 0, 0, false), "(1 5 0 0)", 1, 5, 6);
+        clashIs(Due.bench(2, 2, 0, 3, 0, 0, false), null, 0, 1, 3, 4);
+        clashIs(Due.bench(2, 1, 0, 4, 0, 0, false), null, 0, 1, 2);
     }
 
     private static void sumsAndProducts() {
-        clashIs(bench(0, 20, 1, 0, 0, 0, false), "(2 2 4 0)", 2, 4);
-        clashIs(bench(0, 20, 1, 0, 0, 0, true), null, 2, 4);
-        clashIs(bench(0, 20, 1, 0, 0, 0, true), "(2 4 6 0)", 2, 4, 6);
-        clashIs(bench(0, 20, 1, 0, 0, 0, false), null, 11, 12, 20);
-        clashIs(bench(0, 20, 1, 0, 0, 0, false), "(1 19 20 0)", 1, 19, 20);
-        clashIs(bench(1, 5, 1, 0, 0, 0, false), "(0 0 0 0)", 0);
-        clashIs(bench(1, 5, 1, 0, 0, 0, true), null, 0, 1);
-        clashIs(bench(1, 5, 1, 0, 0, 0, false), "(3 3 1 0)", 1, 3);
-        clashIs(bench(1, 5, 1, 0, 0, 0, true), "(2 4 1 0)", 1, 2, 4);
-        clashIs(bench(2, 2, 1, 0, 0, 0, false), "(4 4 8 0)", 4, 8);
-        clashIs(bench(2, 2, 1, 0, 0, 0, true), "(2 5 4 0)", 2, 4, 5);
-        clashIs(bench(0, 20, 2, 0, 0, 0, false), "(1 1 1 0)", 1);
-        clashIs(bench(0, 20, 2, 0, 0, 0, true), null, 1, 5);
-        clashIs(bench(0, 20, 2, 0, 0, 0, false), "(2 2 4 0)", 2, 4);
-        clashIs(bench(0, 20, 2, 0, 0, 0, true), "(3 4 12 0)", 3, 4, 12, 20, 5);
-        clashIs(bench(0, 20, 2, 0, 0, 0, false), null, 5, 6, 7);
-        clashIs(bench(0, 60, 2, 0, 0, 0, false), null, 8, 60);
-        clashIs(bench(1, 7, 2, 0, 0, 0, false), "(3 3 2 0)", 2, 3);
-        clashIs(bench(1, 7, 2, 0, 0, 0, true), "(3 4 5 0)", 3, 4, 5);
-        clashIs(bench(2, 2, 2, 0, 0, 0, false), "(4 4 4 0)", 4, 5);
-        clashIs(bench(2, 2, 2, 0, 0, 0, false), null, 2, 5);
-        clashIs(bench(2, 2, 2, 0, 0, 0, true), "(1 5 2 0)", 1, 2, 5);
+        clashIs(Due.bench(0, 20, 1, 0, 0, 0, false), "(2 2 4 0)", 2, 4);
+        clashIs(Due.bench(0, 20, 1, 0, 0, 0, true), null, 2, 4);
+        clashIs(Due.bench(0, 20, 1, 0, 0, 0, true), "(2 4 6 0)", 2, 4, 6);
+        clashIs(Due.bench(0, 20, 1, 0, 0, 0, false), null, 11, 12, 20);
+        clashIs(Due.bench(0, 20, 1, 0, 0, 0, false), "(1 19 20 0)", 1, 19, 20);
+        clashIs(Due.bench(1, 5, 1, 0, 0, 0, false), "(0 0 0 0)", 0);
+        clashIs(Due.bench(1, 5, 1, 0, 0, 0, true), null, 0, 1);
+        clashIs(Due.bench(1, 5, 1, 0, 0, 0, false), "(3 3 1 0)", 1, 3);
+        clashIs(Due.bench(1, 5, 1, 0, 0, 0, true), "(2 4 1 0)", 1, 2, 4);
+        clashIs(Due.bench(2, 2, 1, 0, 0, 0, false), "(4 4 8 0)", 4, 8);
+        clashIs(Due.bench(2, 2, 1, 0, 0, 0, true), "(2 5 4 0)", 2, 4, 5);
+        clashIs(Due.bench(0, 20, 2, 0, 0, 0, false), "(1 1 1 0)", 1);
+        clashIs(Due.bench(0, 20, 2, 0, 0, 0, true), null, 1, 5);
+        clashIs(Due.bench(0, 20, 2, 0, 0, 0, false), "(2 2 4 0)", 2, 4);
+        clashIs(Due.bench(0, 20, 2, 0, 0, 0, true), "(3 4 12 0)", 3, 4, 12, 20, 5);
+        clashIs(Due.bench(0, 20, 2, 0, 0, 0, false), null, 5, 6, 7);
+        clashIs(Due.bench(0, 60, 2, 0, 0, 0, false), null, 8, 60);
+        clashIs(Due.bench(1, 7, 2, 0, 0, 0, false), "(3 3 2 0)", 2, 3);
+        clashIs(Due.bench(1, 7, 2, 0, 0, 0, true), "(3 4 5 0)", 3, 4, 5);
+        clashIs(Due.bench(2, 2, 2, 0, 0, 0, false), "(4 4 4 0)", 4, 5);
+        clashIs(Due.bench(2, 2, 2, 0, 0, 0, false), null, 2, 5);
+        clashIs(Due.bench(2, 2, 2, 0, 0, 0, true), "(1 5 2 0)", 1, 2, 5);
     }
 
     private static void apart() {
-        clashIs(bench(0, 20, 3, 0, 0, 0, false), "(1 3 2 2)", 1, 2, 3);
-        clashIs(bench(0, 20, 3, 0, 0, 0, true), "(1 3 2 2)", 1, 2, 3);
-        clashIs(bench(0, 20, 3, 0, 0, 0, false), null, 1, 2, 5, 7);
-        clashIs(bench(0, 20, 3, 0, 0, 0, false), "(16 20 17 19)", 1, 16, 17, 19, 20);
-        clashIs(bench(1, 7, 3, 0, 0, 0, false), null, 0, 1, 3);
-        clashIs(bench(1, 7, 3, 0, 0, 0, false), "(0 0 3 4)", 0, 3, 4);
-        clashIs(bench(1, 6, 3, 0, 0, 0, false), "(1 1 4 4)", 1, 4);
-        clashIs(bench(1, 7, 3, 0, 0, 0, false), "(0 5 6 6)", 0, 5, 6);
-        clashIs(bench(2, 2, 3, 0, 0, 0, false), null, 0, 1, 3);
-        clashIs(bench(2, 2, 3, 0, 0, 0, false), "(0 0 1 2)", 0, 1, 2);
-        clashIs(bench(2, 2, 3, 0, 0, 0, false), "(0 4 1 3)", 0, 1, 3, 4);
+        clashIs(Due.bench(0, 20, 3, 0, 0, 0, false), "(1 3 2 2)", 1, 2, 3);
+        clashIs(Due.bench(0, 20, 3, 0, 0, 0, true), "(1 3 2 2)", 1, 2, 3);
+        clashIs(Due.bench(0, 20, 3, 0, 0, 0, false), null, 1, 2, 5, 7);
+        clashIs(Due.bench(0, 20, 3, 0, 0, 0, false), "(16 20 17 19)", 1, 16, 17, 19, 20);
+        clashIs(Due.bench(1, 7, 3, 0, 0, 0, false), null, 0, 1, 3);
+        clashIs(Due.bench(1, 7, 3, 0, 0, 0, false), "(0 0 3 4)", 0, 3, 4);
+        clashIs(Due.bench(1, 6, 3, 0, 0, 0, false), "(1 1 4 4)", 1, 4);
+        clashIs(Due.bench(1, 7, 3, 0, 0, 0, false), "(0 5 6 6)", 0, 5, 6);
+        clashIs(Due.bench(2, 2, 3, 0, 0, 0, false), null, 0, 1, 3);
+        clashIs(Due.bench(2, 2, 3, 0, 0, 0, false), "(0 0 1 2)", 0, 1, 2);
+        clashIs(Due.bench(2, 2, 3, 0, 0, 0, false), "(0 4 1 3)", 0, 1, 3, 4);
     }
 
     private static void equations() {
-        clashIs(bench(0, 20, 4, 1, 1, -2, false), "(3 3 3 0)", 3);
-        clashIs(bench(0, 20, 4, 1, 1, -2, true), "(3 7 5 0)", 3, 5, 7);
-        clashIs(bench(0, 20, 4, 1, 1, 1, false), null, 1, 2, 3, 4);
-        clashIs(bench(0, 20, 4, 2, -1, 0, false), "(3 6 0 0)", 3, 6);
-        clashIs(bench(0, 20, 4, 0, 3, -1, false), "(0 2 6 0)", 1, 2, 6);
-        clashIs(bench(0, 20, 4, -1, 0, 3, true), "(6 0 2 0)", 1, 2, 6);
-        clashIs(bench(0, 20, 4, 1, -1, 0, false), "(5 5 0 0)", 5);
-        clashIs(bench(0, 20, 4, 1, -1, 0, true), null, 5, 6);
-        clashIs(bench(0, 60, 4, 9, 9, -9, true), "(20 40 60 0)", 20, 40, 60);
-        clashIs(bench(0, 60, 4, 9, 9, -1, false), null, 50, 60);
-        clashIs(bench(0, 60, 4, -9, 0, 9, false), "(60 0 60 0)", 60);
-        clashIs(bench(0, 60, 4, 9, -9, 0, false), "(60 60 0 0)", 60);
-        clashIs(bench(0, 60, 4, 0, 9, -9, false), "(0 60 60 0)", 60);
-        clashIs(bench(0, 60, 4, -9, 1, 1, false), "(10 30 60 0)", 10, 30, 60);
-        clashIs(bench(1, 6, 4, 2, 2, 2, false), "(1 1 1 0)", 1);
-        clashIs(bench(1, 6, 4, 2, 2, 2, false), "(0 0 0 0)", 0, 1, 2, 5);
-        clashIs(bench(1, 6, 4, 2, 2, 2, true), "(0 1 2 0)", 0, 1, 2, 5);
-        clashIs(bench(1, 6, 4, 6, 6, 0, true), "(2 3 0 0)", 2, 3);
-        clashIs(bench(1, 6, 4, 6, 6, 0, true), null, 3);
-        clashIs(bench(1, 5, 4, -3, 1, 0, false), "(2 1 0 0)", 1, 2);
-        clashIs(bench(1, 5, 4, 0, 1, 1, true), "(0 1 4 0)", 0, 1, 4);
-        clashIs(bench(2, 2, 4, 1, 1, 1, true), "(1 3 8 0)", 1, 3, 8);
-        clashIs(bench(2, 2, 4, 4, -2, 0, true), "(1 2 0 0)", 1, 2);
-        clashIs(bench(2, 2, 4, 3, 1, 0, false), "(0 0 0 0)", 0, 1);
-        clashIs(bench(2, 2, 4, 3, 1, 0, true), "(1 0 0 0)", 0, 1);
+        clashIs(Due.bench(0, 20, 4, 1, 1, -2, false), "(3 3 3 0)", 3);
+        clashIs(Due.bench(0, 20, 4, 1, 1, -2, true), "(3 7 5 0)", 3, 5, 7);
+        clashIs(Due.bench(0, 20, 4, 1, 1, 1, false), null, 1, 2, 3, 4);
+        clashIs(Due.bench(0, 20, 4, 2, -1, 0, false), "(3 6 0 0)", 3, 6);
+        clashIs(Due.bench(0, 20, 4, 0, 3, -1, false), "(0 2 6 0)", 1, 2, 6);
+        clashIs(Due.bench(0, 20, 4, -1, 0, 3, true), "(6 0 2 0)", 1, 2, 6);
+        clashIs(Due.bench(0, 20, 4, 1, -1, 0, false), "(5 5 0 0)", 5);
+        clashIs(Due.bench(0, 20, 4, 1, -1, 0, true), null, 5, 6);
+        clashIs(Due.bench(0, 60, 4, 9, 9, -9, true), "(20 40 60 0)", 20, 40, 60);
+        clashIs(Due.bench(0, 60, 4, 9, 9, -1, false), null, 50, 60);
+        clashIs(Due.bench(0, 60, 4, -9, 0, 9, false), "(60 0 60 0)", 60);
+        clashIs(Due.bench(0, 60, 4, 9, -9, 0, false), "(60 60 0 0)", 60);
+        clashIs(Due.bench(0, 60, 4, 0, 9, -9, false), "(0 60 60 0)", 60);
+        clashIs(Due.bench(0, 60, 4, -9, 1, 1, false), "(10 30 60 0)", 10, 30, 60);
+        clashIs(Due.bench(1, 6, 4, 2, 2, 2, false), "(1 1 1 0)", 1);
+        clashIs(Due.bench(1, 6, 4, 2, 2, 2, false), "(0 0 0 0)", 0, 1, 2, 5);
+        clashIs(Due.bench(1, 6, 4, 2, 2, 2, true), "(0 1 2 0)", 0, 1, 2, 5);
+        clashIs(Due.bench(1, 6, 4, 6, 6, 0, true), "(2 3 0 0)", 2, 3);
+        clashIs(Due.bench(1, 6, 4, 6, 6, 0, true), null, 3);
+        clashIs(Due.bench(1, 5, 4, -3, 1, 0, false), "(2 1 0 0)", 1, 2);
+        clashIs(Due.bench(1, 5, 4, 0, 1, 1, true), "(0 1 4 0)", 0, 1, 4);
+        clashIs(Due.bench(2, 2, 4, 1, 1, 1, true), "(1 3 8 0)", 1, 3, 8);
+        clashIs(Due.bench(2, 2, 4, 4, -2, 0, true), "(1 2 0 0)", 1, 2);
+        clashIs(Due.bench(2, 2, 4, 3, 1, 0, false), "(0 0 0 0)", 0, 1);
+        clashIs(Due.bench(2, 2, 4, 3, 1, 0, true), "(1 0 0 0)", 0, 1);
     }
 
     private static void promise12Order() {
-        SumBench x = bench(0, 20, 3, 0, 0, 0, false);
+        SumBench x = Due.bench(0, 20, 3, 0, 0, 0, false);
         x.law(1, 0, 0, 0, false);
         x.law(0, 3, 0, 0, false);
         Due.put(x, 5, 1, 2, 9);
@@ -140,7 +133,7 @@ public final class ClashTest {
     }
 
     private static void promise13Witness() {
-        SumBench x = bench(0, 20, 1, 0, 0, 0, false);
+        SumBench x = Due.bench(0, 20, 1, 0, 0, 0, false);
         Due.put(x, 0, 2, 4);
         Due.is("room does not tell a clash", x.room(0), -2);
         Due.throwsIt("no clash() yet", NoSuchElementException.class, () -> x.witness(0));
@@ -163,7 +156,7 @@ public final class ClashTest {
     }
 
     private static void promise14Room() {
-        SumBench x = bench(0, 9, 0, 3, 0, 0, false);
+        SumBench x = Due.bench(0, 9, 0, 3, 0, 0, false);
         Due.is("room of an empty set", x.room(0), 1);
         Due.put(x, 0, 1, 2);
         Due.is("room", x.room(0), 4);
@@ -172,16 +165,16 @@ public final class ClashTest {
         Due.put(x, 0, 3);
         Due.is("broken", x.room(0), -2);
         Due.same("the set stays", Due.set(x, 0), "(1 2 3 4 8 9)");
-        SumBench rests = bench(1, 5, 1, 0, 0, 0, false);
+        SumBench rests = Due.bench(1, 5, 1, 0, 0, 0, false);
         Due.is("0 never comes in", rests.room(0), 1);
         Due.put(rests, 0, 1);
         Due.is("nor 2, nor 3", rests.room(0), 4);
         Due.put(rests, 0, 4);
         Due.is("full", rests.room(0), -1);
-        SumBench apart = bench(2, 3, 3, 0, 0, 0, false);
+        SumBench apart = Due.bench(2, 3, 3, 0, 0, 0, false);
         Due.put(apart, 0, 0, 1, 3);
         Due.is("room of APART", apart.room(0), 9);
-        SumBench longRow = bench(1, 8, 0, 4, 0, 0, false);
+        SumBench longRow = Due.bench(1, 8, 0, 4, 0, 0, false);
         Due.put(longRow, 0, 0, 1, 7);
         Due.is("2 and 6 would make a row", longRow.room(0), 3);
         Due.put(longRow, 0, 3);

@@ -6,13 +6,6 @@ public final class ColourTest {
     private ColourTest() {
     }
 
-    private static SumBench bench(int sort, int n, int kind, int a) {
-        SumBench x = new SumBench();
-        Due.is("ground", x.ground(sort, n), true);
-        Due.is("law", x.law(kind, a, 0, 0, false), 0);
-        return x;
-    }
-
     private static String colouring(SumBench x) {
         StringBuilder text = new StringBuilder();
         for (int y = x.look(0) == 0 ? 1 : 0; x.colour(y) != -1; y++) {
@@ -22,22 +15,22 @@ public final class ColourTest {
     }
 
     private static void promise21Colours() {
-        SumBench x = bench(0, 8, 0, 3);
+        SumBench x = Due.bench(0, 8, 0, 3);
         Due.is("1 .. 8 in two colours", x.colours(2, 50000), 0);
         Due.same("the first such", colouring(x), "00110011");
         Due.is("in one colour", x.colours(1, 50000), 1);
         Due.same("the latest that was 0", colouring(x), "00110011");
         Due.is("in eight colours", x.colours(8, 50000), 0);
         Due.same("a new colour comes behind all that are had", colouring(x), "00100112");
-        Due.is("1 .. 9 in two colours", bench(0, 9, 0, 3).colours(2, 50000), 1);
-        SumBench sums = bench(0, 4, 1, 0);
+        Due.is("1 .. 9 in two colours", Due.bench(0, 9, 0, 3).colours(2, 50000), 1);
+        SumBench sums = Due.bench(0, 4, 1, 0);
         Due.is("1 .. 4 without sums", sums.colours(2, 500), 0);
         Due.same("the only one", colouring(sums), "0110");
-        SumBench rests = bench(1, 5, 1, 0);
+        SumBench rests = Due.bench(1, 5, 1, 0);
         Due.is("0 + 0 = 0 in any colour", rests.colours(8, 500), 1);
         Due.is("the beginning alone is looked at", rests.look(5), 1);
         Due.is("no colours", rests.colour(1), -1);
-        SumBench caps = bench(2, 2, 0, 3);
+        SumBench caps = Due.bench(2, 2, 0, 3);
         Due.is("a plane by threes", caps.colours(3, 50000), 0);
         Due.is("a plane by threes in one", caps.colours(1, 50000), 1);
         SumBench free = new SumBench();
@@ -48,7 +41,7 @@ public final class ColourTest {
 
     /** 1 2 3 4 without sums in two colours: the beginning, 0, 01, 010, 011, 0110. */
     private static void promise21Spent() {
-        SumBench x = bench(0, 4, 1, 0);
+        SumBench x = Due.bench(0, 4, 1, 0);
         for (int looks = 1; looks <= 5; looks++) {
             Due.is("colours(2, " + looks + ")", x.colours(2, looks), 2);
             Due.is("looks", x.look(5), looks);
@@ -57,7 +50,7 @@ public final class ColourTest {
         Due.is("colours(2, 6)", x.colours(2, 6), 0);
         Due.is("looks", x.look(5), 6);
         // 1 .. 5: the same CASES, and then neither COLOUR for 5.
-        SumBench five = bench(0, 5, 1, 0);
+        SumBench five = Due.bench(0, 5, 1, 0);
         Due.is("no CASE is left to look at: not spent", five.colours(2, 6), 1);
         Due.is("looks", five.look(5), 6);
         Due.is("one fewer", five.colours(2, 5), 2);
@@ -74,7 +67,7 @@ public final class ColourTest {
     }
 
     private static void promise22Colour() {
-        SumBench x = bench(0, 4, 1, 0);
+        SumBench x = Due.bench(0, 4, 1, 0);
         x.colours(2, 500);
         int[] outside = {0, 5, -1, 61, 64 + 2, Integer.MIN_VALUE, Integer.MAX_VALUE};
         for (int y : outside) {
@@ -98,28 +91,28 @@ public final class ColourTest {
     }
 
     private static void promise23Forced() {
-        Due.is("Schur, one colour", bench(0, 60, 1, 0).forced(1, 50000), 2);
-        Due.is("Schur, two colours", bench(0, 60, 1, 0).forced(2, 50000), 5);
-        Due.is("Schur, three colours", bench(0, 60, 1, 0).forced(3, 50000), 14);
-        Due.is("van der Waerden, 3 and two colours", bench(0, 60, 0, 3).forced(2, 50000), 9);
-        Due.is("van der Waerden, 4 and two colours", bench(0, 60, 0, 4).forced(2, 50000), 35);
-        Due.is("all can: n + 1", bench(0, 13, 1, 0).forced(3, 50000), 14);
-        Due.is("all can: n + 1", bench(0, 12, 1, 0).forced(3, 50000), 13);
-        Due.is("the last can't: n", bench(0, 5, 1, 0).forced(2, 50000), 5);
-        Due.is("the first can't", bench(0, 5, 2, 0).forced(2, 50000), 1);
+        Due.is("Schur, one colour", Due.bench(0, 60, 1, 0).forced(1, 50000), 2);
+        Due.is("Schur, two colours", Due.bench(0, 60, 1, 0).forced(2, 50000), 5);
+        Due.is("Schur, three colours", Due.bench(0, 60, 1, 0).forced(3, 50000), 14);
+        Due.is("van der Waerden, 3 and two colours", Due.bench(0, 60, 0, 3).forced(2, 50000), 9);
+        Due.is("van der Waerden, 4 and two colours", Due.bench(0, 60, 0, 4).forced(2, 50000), 35);
+        Due.is("all can: n + 1", Due.bench(0, 13, 1, 0).forced(3, 50000), 14);
+        Due.is("all can: n + 1", Due.bench(0, 12, 1, 0).forced(3, 50000), 13);
+        Due.is("the last can't: n", Due.bench(0, 5, 1, 0).forced(2, 50000), 5);
+        Due.is("the first can't", Due.bench(0, 5, 2, 0).forced(2, 50000), 1);
         Due.is("without laws", new SumBench().forced(1, 50000), 21);
-        SumBench x = bench(0, 5, 1, 0);
+        SumBench x = Due.bench(0, 5, 1, 0);
         Due.is("just looks enough", x.forced(2, 6), 5);
         Due.is("looks: 2 + 3 + 4 + 6 + 6", x.look(5), 21);
         Due.is("one was spent", x.forced(2, 5), -1);
         Due.is("looks: 2 + 3 + 4 + 5", x.look(5), 14);
         Due.is("no colours", x.colour(1), -1);
-        SumBench rests = bench(1, 5, 0, 3);
+        SumBench rests = Due.bench(1, 5, 0, 3);
         rests.count(50);
         int looks = rests.look(5);
         Due.is("another sort", rests.forced(2, 50000), -2);
         Due.is("no search was made", rests.look(5), looks);
-        Due.is("another sort", bench(2, 2, 0, 3).forced(2, 1), -2);
+        Due.is("another sort", Due.bench(2, 2, 0, 3).forced(2, 1), -2);
     }
 
     public static void main(String[] args) {

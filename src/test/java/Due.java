@@ -44,6 +44,18 @@ final class Due {
         }
     }
 
+    /** A new object with this GROUND and one LAW. */
+    static SumBench bench(int sort, int n, int kind, int a, int b, int c, boolean unlike) {
+        SumBench x = new SumBench();
+        is("ground(" + sort + ", " + n + ")", x.ground(sort, n), true);
+        is("law(" + kind + ", " + a + ", ..)", x.law(kind, a, b, c, unlike), 0);
+        return x;
+    }
+
+    static SumBench bench(int sort, int n, int kind, int a) {
+        return bench(sort, n, kind, a, 0, 0, false);
+    }
+
     /** The numbers of SET k, as (1 2 4). */
     static String set(SumBench x, int k) {
         StringBuilder text = new StringBuilder("(");

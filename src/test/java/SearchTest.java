@@ -6,19 +6,12 @@ public final class SearchTest {
     private SearchTest() {
     }
 
-    private static SumBench bench(int sort, int n, int kind, int a) {
-        SumBench x = new SumBench();
-        Due.is("ground", x.ground(sort, n), true);
-        Due.is("law", x.law(kind, a, 0, 0, false), 0);
-        return x;
-    }
-
     private static void promise15Known() {
         // The known greatest sizes of sets of 1 .. n without three in a row, and how many such sets there are.
         int[] sizes = {1, 2, 2, 3, 4, 4, 4, 4, 5, 5, 6, 6, 7, 8, 8, 8, 8, 8, 8, 9};
         int[] many = {1, 1, 3, 2, 1, 4, 10, 25, 4, 24, 7, 25, 6, 1, 4, 14, 43, 97, 220, 2};
         for (int n = 1; n <= sizes.length; n++) {
-            SumBench x = bench(0, n, 0, 3);
+            SumBench x = Due.bench(0, n, 0, 3);
             Due.is("no three in a row of 1 .. " + n, x.greatest(0, 50000), sizes[n - 1]);
             Due.is("it keeps the law", x.clash(0), -1);
             Due.is("all without three in a row of 1 .. " + n, x.list(50000), many[n - 1]);
@@ -26,17 +19,17 @@ public final class SearchTest {
             Due.same("the first in order", Due.set(x, 0), Due.set(x, 1));
         }
         for (int n = 1; n <= 16; n++) {
-            Due.is("no sum within 1 .. " + n, bench(0, n, 1, 0).greatest(0, 50000), (n + 1) / 2);
+            Due.is("no sum within 1 .. " + n, Due.bench(0, n, 1, 0).greatest(0, 50000), (n + 1) / 2);
         }
         int[] rulers = {1, 2, 4, 7, 12, 18};
         for (int marks = 1; marks <= rulers.length; marks++) {
-            SumBench x = bench(0, rulers[marks - 1], 3, 0);
+            SumBench x = Due.bench(0, rulers[marks - 1], 3, 0);
             Due.is("a ruler of so many marks", x.greatest(0, 50000), marks);
         }
-        SumBench x = bench(1, 13, 3, 0);
+        SumBench x = Due.bench(1, 13, 3, 0);
         Due.is("a plane of 13", x.greatest(0, 50000), 4);
         Due.same("its first line", Due.set(x, 0), "(0 1 3 9)");
-        x = bench(0, 14, 0, 3);
+        x = Due.bench(0, 14, 0, 3);
         Due.is("greatest", x.greatest(0, 50000), 8);
         Due.same("the one of 14", Due.set(x, 0), "(1 2 4 5 10 11 13 14)");
     }
@@ -53,13 +46,13 @@ public final class SearchTest {
             Due.same("set 2", Due.set(x, 2), looks < 4 ? "(2)" : "(1 2 3)");
             Due.is("looks", x.look(5), Math.min(looks, 7));
         }
-        SumBench none = bench(0, 1, 2, 0);
+        SumBench none = Due.bench(0, 1, 2, 0);
         Due.put(none, 0, 1);
         Due.is("no best yet", none.greatest(0, 1), -1);
         Due.same("the set stays", Due.set(none, 0), "(1)");
         Due.is("the empty set is the best", none.greatest(0, 2), 0);
         Due.same("the set is empty", Due.set(none, 0), "()");
-        SumBench sum = bench(0, 2, 1, 0);
+        SumBench sum = Due.bench(0, 2, 1, 0);
         Due.is("a best, but spent", sum.greatest(0, 3), -2);
         Due.same("the best so far", Due.set(sum, 0), "(1)");
         Due.is("a CASE that is left is a LOOK", sum.greatest(0, 4), 1);
@@ -76,7 +69,7 @@ public final class SearchTest {
     }
 
     private static void promises16And17List() {
-        SumBench x = bench(0, 5, 0, 3);
+        SumBench x = Due.bench(0, 5, 0, 3);
         x.law(1, 0, 0, 0, true);
         Due.is("list by two laws", x.list(500), 3);
         String[] want = {"(1 2 4)", "(1 2 5)", "(2 4 5)"};
@@ -120,7 +113,7 @@ public final class SearchTest {
         Due.is("nothing is listed", x.look(4) + x.kinds(0), 0);
         Due.is("nothing is listed", x.listed(0, 0), -1);
         Due.same("the set stays", Due.set(x, 0), "(2)");
-        SumBench sum = bench(0, 4, 1, 0);
+        SumBench sum = Due.bench(0, 4, 1, 0);
         sum.greatest(0, 50000);
         int first = sum.look(5);
         Due.is("list", sum.list(50000), 4);
@@ -182,7 +175,7 @@ public final class SearchTest {
     }
 
     private static void promises18And19Kinds() {
-        SumBench x = bench(0, 4, 0, 3);
+        SumBench x = Due.bench(0, 4, 0, 3);
         x.list(500);
         Due.same("1 2 4 and 1 3 4", kindsOf(x, 0), "(0 1 1)(1 1 1)");
         Due.same("mirrored", kindsOf(x, 1), "(0 2 1)");
@@ -192,7 +185,7 @@ public final class SearchTest {
         one.ground(0, 1);
         one.list(50);
         Due.same("of one number alone all TURNS are one", kindsOf(one, 1), "(0 1 1)");
-        SumBench plane = bench(1, 7, 3, 0);
+        SumBench plane = Due.bench(1, 7, 3, 0);
         Due.is("lists of 7", plane.list(5000), 14);
         Due.same("0 1 3 moved, 0 1 5 moved", kindsOf(plane, 2), "(0 7 1)(1 7 1)");
         Due.same("and turned", kindsOf(plane, 3), "(0 14 1)");
@@ -208,7 +201,7 @@ public final class SearchTest {
         eight.list(50);
         Due.same("factors of 8: 1 3 5 7", kindsOf(eight, 4) + kindsOf(eight, 6) + kindsOf(eight, 1),
             "(0 1 4)(0 1 32)(0 1 2)");
-        SumBench caps = bench(2, 2, 0, 3);
+        SumBench caps = Due.bench(2, 2, 0, 3);
         Due.is("caps of the plane", caps.list(50000), 54);
         Due.is("each about one of 9 middles", caps.kinds(2), 6);
         Due.is("6 of them about 0", caps.kinds(1), 30);
@@ -241,11 +234,11 @@ public final class SearchTest {
         // The known numbers of sets of 1 .. n without a sum, and without three in a row.
         int[] sums = {2, 3, 6, 9, 16, 24, 42, 61, 108, 151, 253, 369, 607, 847, 1400};
         for (int n = 1; n <= sums.length; n++) {
-            Due.is("sets without a sum of 1 .. " + n, bench(0, n, 1, 0).count(50000), sums[n - 1]);
+            Due.is("sets without a sum of 1 .. " + n, Due.bench(0, n, 1, 0).count(50000), sums[n - 1]);
         }
         int[] rows = {2, 4, 7, 13, 23, 40, 65, 106};
         for (int n = 1; n <= rows.length; n++) {
-            Due.is("sets without three in a row of 1 .. " + n, bench(0, n, 0, 3).count(50000), rows[n - 1]);
+            Due.is("sets without three in a row of 1 .. " + n, Due.bench(0, n, 0, 3).count(50000), rows[n - 1]);
         }
         SumBench x = new SumBench();
         x.ground(0, 3);
@@ -257,7 +250,7 @@ public final class SearchTest {
         Due.is("spent", x.count(1), -1);
         Due.is("looks", x.look(5), 1);
         Due.same("the sets stay", Due.set(x, 0), "(2)");
-        SumBench none = bench(0, 1, 2, 0);
+        SumBench none = Due.bench(0, 1, 2, 0);
         Due.is("the empty one alone", none.count(2), 1);
         x.ground(0, 14);
         Due.is("2 to the 14th", x.count(32767), 16384);
