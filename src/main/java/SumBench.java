@@ -959,7 +959,7 @@ public final class SumBench {
             this.listing = listing;
         }
 
-        /** With the aim LIST the sets go to the listing, which must be empty, and the floor is the size of a GREATEST. */
+        /** With the aim LIST the sets go to the listing, which is empty, and the floor is the size of a GREATEST. */
         void walk(int newAim, int newFloor, int looks) {
             laws.makeReady();
             aim = newAim;
@@ -1100,7 +1100,7 @@ public final class SumBench {
         }
     }
 
-    /** The sets listed, in ORDER, and their KINDS by the TURNS that were asked for last. Cleared before it is filled. */
+    /** The sets listed, in ORDER, and their KINDS by the TURNS asked for last. It is cleared before it is filled. */
     private static final class Listing {
         private static final int BACK = 1;
         private static final int MOVE = 2;

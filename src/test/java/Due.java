@@ -1,4 +1,4 @@
-/** Compares answers with those that are due, tells each that is not, and ends a test with exit code 1 if there was one. */
+/** Compares answers with those that are due, tells each that is not, and ends a test with exit code 1 for one. */
 final class Due {
     private static int wrong = 0;
     private static int asked = 0;
