@@ -3,13 +3,12 @@ import java.lang.reflect.Method;
 import java.util.ArrayList;
 import java.util.Arrays;
 import java.util.List;
-import java.util.function.IntBinaryOperator;
-import java.util.function.IntUnaryOperator;
 
 /** Promises 1 to 28: runs of many calls, right and wrong ones, which a SumBench and a SlowBench must answer alike. */
 public final class AgainstSlowTest {
-    private static final int RUNS = 1500;
-    private static final int CALLS = 120;
+    private static final int RUNS = 2000;
+    /** As many as the document grants an object. */
+    private static final int CALLS = 512;
     private static final int[] ODD = {-1, 8, 9, 61, 64, 65, 300, -64, Integer.MIN_VALUE, Integer.MAX_VALUE};
     private static final int[] ODD_LOOKS = {0, -1, 50001, Integer.MIN_VALUE, Integer.MAX_VALUE};
     private static final String[] OFTEN = {
@@ -18,7 +17,13 @@ public final class AgainstSlowTest {
         "sums", "sums", "energy", "order", "keep", "keep", "feed", "end", "sheet", "sheet", "has", "size", "at", "drop",
         "ground", "look"
     };
+    private static final String[] STATE = {
+        "size", "size", "has", "has", "at", "at", "look", "look", "look", "witness", "colour"
+    };
 
+    private final SumBench bench = new SumBench();
+    private final SlowBench slow = new SlowBench();
+    private final List<String> told = new ArrayList<>();
     private long seed;
     private int sort;
     private int n;
@@ -136,61 +141,28 @@ public final class AgainstSlowTest {
         throw new IllegalStateException(of.getSimpleName() + " has no " + name);
     }
 
-    private static String state(SumBench x) {
-        return state(x::size, x::at, x::look, x::witness, x::colour);
+    /** One call of both; false, if they do not answer alike. */
+    private boolean ask(String name) {
+        sort = slow.look(0);
+        n = slow.look(1);
+        Object[] args = arguments(name);
+        told.add(name + Arrays.toString(args));
+        String want = outcome(slow, find(SlowBench.class, name), args);
+        String got = outcome(bench, find(SumBench.class, name), args);
+        boolean alike = got.equals(want);
+        Due.same(alike ? name : "the last of " + told, got, want);
+        return alike;
     }
 
-    private static String state(SlowBench x) {
-        return state(x::size, x::at, x::look, x::witness, x::colour);
-    }
-
-    private static String state(IntUnaryOperator size, IntBinaryOperator at, IntUnaryOperator look,
-            IntUnaryOperator witness, IntUnaryOperator colour) {
-        StringBuilder text = new StringBuilder();
-        for (int k = 0; k < 8; k++) {
-            text.append("(");
-            for (int i = 0; i < size.applyAsInt(k); i++) {
-                text.append(' ').append(at.applyAsInt(k, i));
-            }
-            text.append(")");
-        }
-        for (int what = 0; what < 7; what++) {
-            text.append(' ').append(look.applyAsInt(what));
-        }
-        for (int i = 0; i < 4; i++) {
-            int place = i;
-            text.append(" w").append(Due.outcome(() -> witness.applyAsInt(place)));
-        }
-        for (int y = 0; y <= 60; y++) {
-            text.append(' ').append(colour.applyAsInt(y));
-        }
-        return text.toString();
-    }
-
-    /** The state is looked at behind every call, so that a call that throws is seen to change nothing. */
+    /** Some state is asked for behind every call, so that a call that throws is seen to change nothing. */
     private void run() {
-        SumBench bench = new SumBench();
-        SlowBench slow = new SlowBench();
-        List<String> told = new ArrayList<>();
-        for (int i = 0; i < CALLS; i++) {
-            sort = slow.look(0);
-            n = slow.look(1);
-            String name = i == 0 && pick(5) != 0 ? "ground" : OFTEN[pick(OFTEN.length)];
-            Object[] args = arguments(name);
-            told.add(name + Arrays.toString(args));
-            String want = outcome(slow, find(SlowBench.class, name), args);
-            String got = outcome(bench, find(SumBench.class, name), args);
-            if (!got.equals(want)) {
-                Due.same("the last of " + told, got, want);
-                return;
+        boolean alike = true;
+        for (int call = 0; call < CALLS && alike; call++) {
+            if (call % 4 != 0) {
+                alike = ask(STATE[pick(STATE.length)]);
+            } else {
+                alike = ask(call == 0 && pick(5) != 0 ? "ground" : OFTEN[pick(OFTEN.length)]);
             }
-            String wantState = state(slow);
-            String gotState = state(bench);
-            if (!gotState.equals(wantState)) {
-                Due.same("the state behind " + told, gotState, wantState);
-                return;
-            }
-            Due.same(name, got, want);
         }
     }
 

@@ -5,112 +5,97 @@ public final class ClashTest {
     private ClashTest() {
     }
 
-    private static String witness(SumBench x) {
-        return "(" + x.witness(0) + " " + x.witness(1) + " " + x.witness(2) + " " + x.witness(3) + ")";
-    }
-
-    /** SET 0 of these numbers has this first CLASH of LAW 0; none, if that is null. */
-    private static void clashIs(SumBench x, String want, int... numbers) {
-        x.sums(7, 7, 0, 0);
-        Due.put(x, 0, numbers);
-        String set = Due.set(x, 0);
-        Due.is("clash of " + set, x.clash(0), want == null ? -1 : 0);
-        if (want != null) {
-            Due.same("witness of " + set, witness(x), want);
-        }
-    }
-
     private static void rows() {
         SumBench x = Due.bench(0, 20, 0, 3, 0, 0, false);
-        clashIs(x, null);
-        clashIs(x, null, 1, 2, 4, 5, 10, 11, 13, 14);
-        clashIs(x, "(1 2 0 0)", 1, 2, 3);
-        clashIs(x, "(2 11 0 0)", 2, 11, 20);
-        clashIs(x, "(4 6 0 0)", 1, 4, 6, 8, 12);
-        clashIs(Due.bench(0, 20, 0, 4, 0, 0, true), "(2 4 0 0)", 1, 2, 4, 6, 8);
-        clashIs(Due.bench(0, 20, 0, 4, 0, 0, true), null, 1, 2, 3, 5, 6, 8);
-        clashIs(Due.bench(0, 60, 0, 6, 0, 0, false), "(10 20 0 0)", 10, 20, 30, 40, 50, 60);
-        clashIs(Due.bench(0, 60, 0, 6, 0, 0, false), null, 1, 2, 3, 4, 5, 7, 8, 9, 10);
-        clashIs(Due.bench(0, 60, 0, 5, 0, 0, false), "(1 2 0 0)", 1, 2, 3, 4, 5);
-        clashIs(Due.bench(1, 7, 0, 3, 0, 0, false), "(0 3 0 0)", 0, 3, 6);
-        clashIs(Due.bench(1, 7, 0, 3, 0, 0, false), "(0 4 0 0)", 0, 1, 4);
-        clashIs(Due.bench(1, 4, 0, 3, 0, 0, false), null, 0, 2);
-        clashIs(Due.bench(1, 4, 0, 3, 0, 0, false), "(1 2 0 0)", 1, 2, 3);
-        clashIs(Due.bench(1, 3, 0, 3, 0, 0, false), "(0 1 0 0)", 0, 1, 2);
-        clashIs(Due.bench(1, 3, 0, 4, 0, 0, false), null, 0, 1, 2);
-        clashIs(Due.bench(1, 6, 0, 4, 0, 0, false), null, 0, 2, 4);
-        clashIs(Due.bench(1, 6, 0, 4, 0, 0, false), "(1 0 0 0)", 0, 1, 4, 5);
-        clashIs(Due.bench(2, 2, 0, 3, 0, 0, false), "(0 4 0 0)", 0, 4, 8);
-        clashIs(Due.bench(2, 2, 0, 3, 0, 0, false), "(1 5 0 0)", 1, 5, 6);
-        clashIs(Due.bench(2, 2, 0, 3, 0, 0, false), null, 0, 1, 3, 4);
-        clashIs(Due.bench(2, 1, 0, 4, 0, 0, false), null, 0, 1, 2);
+        Due.clashIs(x, null);
+        Due.clashIs(x, null, 1, 2, 4, 5, 10, 11, 13, 14);
+        Due.clashIs(x, "(1 2 0 0)", 1, 2, 3);
+        Due.clashIs(x, "(2 11 0 0)", 2, 11, 20);
+        Due.clashIs(x, "(4 6 0 0)", 1, 4, 6, 8, 12);
+        Due.clashIs(Due.bench(0, 20, 0, 4, 0, 0, true), "(2 4 0 0)", 1, 2, 4, 6, 8);
+        Due.clashIs(Due.bench(0, 20, 0, 4, 0, 0, true), null, 1, 2, 3, 5, 6, 8);
+        Due.clashIs(Due.bench(0, 60, 0, 6, 0, 0, false), "(10 20 0 0)", 10, 20, 30, 40, 50, 60);
+        Due.clashIs(Due.bench(0, 60, 0, 6, 0, 0, false), null, 1, 2, 3, 4, 5, 7, 8, 9, 10);
+        Due.clashIs(Due.bench(0, 60, 0, 5, 0, 0, false), "(1 2 0 0)", 1, 2, 3, 4, 5);
+        Due.clashIs(Due.bench(1, 7, 0, 3, 0, 0, false), "(0 3 0 0)", 0, 3, 6);
+        Due.clashIs(Due.bench(1, 7, 0, 3, 0, 0, false), "(0 4 0 0)", 0, 1, 4);
+        Due.clashIs(Due.bench(1, 4, 0, 3, 0, 0, false), null, 0, 2);
+        Due.clashIs(Due.bench(1, 4, 0, 3, 0, 0, false), "(1 2 0 0)", 1, 2, 3);
+        Due.clashIs(Due.bench(1, 3, 0, 3, 0, 0, false), "(0 1 0 0)", 0, 1, 2);
+        Due.clashIs(Due.bench(1, 3, 0, 4, 0, 0, false), null, 0, 1, 2);
+        Due.clashIs(Due.bench(1, 6, 0, 4, 0, 0, false), null, 0, 2, 4);
+        Due.clashIs(Due.bench(1, 6, 0, 4, 0, 0, false), "(1 0 0 0)", 0, 1, 4, 5);
+        Due.clashIs(Due.bench(2, 2, 0, 3, 0, 0, false), "(0 4 0 0)", 0, 4, 8);
+        Due.clashIs(Due.bench(2, 2, 0, 3, 0, 0, false), "(1 5 0 0)", 1, 5, 6);
+        Due.clashIs(Due.bench(2, 2, 0, 3, 0, 0, false), null, 0, 1, 3, 4);
+        Due.clashIs(Due.bench(2, 1, 0, 4, 0, 0, false), null, 0, 1, 2);
     }
 
     private static void sumsAndProducts() {
-        clashIs(Due.bench(0, 20, 1, 0, 0, 0, false), "(2 2 4 0)", 2, 4);
-        clashIs(Due.bench(0, 20, 1, 0, 0, 0, true), null, 2, 4);
-        clashIs(Due.bench(0, 20, 1, 0, 0, 0, true), "(2 4 6 0)", 2, 4, 6);
-        clashIs(Due.bench(0, 20, 1, 0, 0, 0, false), null, 11, 12, 20);
-        clashIs(Due.bench(0, 20, 1, 0, 0, 0, false), "(1 19 20 0)", 1, 19, 20);
-        clashIs(Due.bench(1, 5, 1, 0, 0, 0, false), "(0 0 0 0)", 0);
-        clashIs(Due.bench(1, 5, 1, 0, 0, 0, true), null, 0, 1);
-        clashIs(Due.bench(1, 5, 1, 0, 0, 0, false), "(3 3 1 0)", 1, 3);
-        clashIs(Due.bench(1, 5, 1, 0, 0, 0, true), "(2 4 1 0)", 1, 2, 4);
-        clashIs(Due.bench(2, 2, 1, 0, 0, 0, false), "(4 4 8 0)", 4, 8);
-        clashIs(Due.bench(2, 2, 1, 0, 0, 0, true), "(2 5 4 0)", 2, 4, 5);
-        clashIs(Due.bench(0, 20, 2, 0, 0, 0, false), "(1 1 1 0)", 1);
-        clashIs(Due.bench(0, 20, 2, 0, 0, 0, true), null, 1, 5);
-        clashIs(Due.bench(0, 20, 2, 0, 0, 0, false), "(2 2 4 0)", 2, 4);
-        clashIs(Due.bench(0, 20, 2, 0, 0, 0, true), "(3 4 12 0)", 3, 4, 12, 20, 5);
-        clashIs(Due.bench(0, 20, 2, 0, 0, 0, false), null, 5, 6, 7);
-        clashIs(Due.bench(0, 60, 2, 0, 0, 0, false), null, 8, 60);
-        clashIs(Due.bench(1, 7, 2, 0, 0, 0, false), "(3 3 2 0)", 2, 3);
-        clashIs(Due.bench(1, 7, 2, 0, 0, 0, true), "(3 4 5 0)", 3, 4, 5);
-        clashIs(Due.bench(2, 2, 2, 0, 0, 0, false), "(4 4 4 0)", 4, 5);
-        clashIs(Due.bench(2, 2, 2, 0, 0, 0, false), null, 2, 5);
-        clashIs(Due.bench(2, 2, 2, 0, 0, 0, true), "(1 5 2 0)", 1, 2, 5);
+        Due.clashIs(Due.bench(0, 20, 1, 0, 0, 0, false), "(2 2 4 0)", 2, 4);
+        Due.clashIs(Due.bench(0, 20, 1, 0, 0, 0, true), null, 2, 4);
+        Due.clashIs(Due.bench(0, 20, 1, 0, 0, 0, true), "(2 4 6 0)", 2, 4, 6);
+        Due.clashIs(Due.bench(0, 20, 1, 0, 0, 0, false), null, 11, 12, 20);
+        Due.clashIs(Due.bench(0, 20, 1, 0, 0, 0, false), "(1 19 20 0)", 1, 19, 20);
+        Due.clashIs(Due.bench(1, 5, 1, 0, 0, 0, false), "(0 0 0 0)", 0);
+        Due.clashIs(Due.bench(1, 5, 1, 0, 0, 0, true), null, 0, 1);
+        Due.clashIs(Due.bench(1, 5, 1, 0, 0, 0, false), "(3 3 1 0)", 1, 3);
+        Due.clashIs(Due.bench(1, 5, 1, 0, 0, 0, true), "(2 4 1 0)", 1, 2, 4);
+        Due.clashIs(Due.bench(2, 2, 1, 0, 0, 0, false), "(4 4 8 0)", 4, 8);
+        Due.clashIs(Due.bench(2, 2, 1, 0, 0, 0, true), "(2 5 4 0)", 2, 4, 5);
+        Due.clashIs(Due.bench(0, 20, 2, 0, 0, 0, false), "(1 1 1 0)", 1);
+        Due.clashIs(Due.bench(0, 20, 2, 0, 0, 0, true), null, 1, 5);
+        Due.clashIs(Due.bench(0, 20, 2, 0, 0, 0, false), "(2 2 4 0)", 2, 4);
+        Due.clashIs(Due.bench(0, 20, 2, 0, 0, 0, true), "(3 4 12 0)", 3, 4, 12, 20, 5);
+        Due.clashIs(Due.bench(0, 20, 2, 0, 0, 0, false), null, 5, 6, 7);
+        Due.clashIs(Due.bench(0, 60, 2, 0, 0, 0, false), null, 8, 60);
+        Due.clashIs(Due.bench(1, 7, 2, 0, 0, 0, false), "(3 3 2 0)", 2, 3);
+        Due.clashIs(Due.bench(1, 7, 2, 0, 0, 0, true), "(3 4 5 0)", 3, 4, 5);
+        Due.clashIs(Due.bench(2, 2, 2, 0, 0, 0, false), "(4 4 4 0)", 4, 5);
+        Due.clashIs(Due.bench(2, 2, 2, 0, 0, 0, false), null, 2, 5);
+        Due.clashIs(Due.bench(2, 2, 2, 0, 0, 0, true), "(1 5 2 0)", 1, 2, 5);
     }
 
     private static void apart() {
-        clashIs(Due.bench(0, 20, 3, 0, 0, 0, false), "(1 3 2 2)", 1, 2, 3);
-        clashIs(Due.bench(0, 20, 3, 0, 0, 0, true), "(1 3 2 2)", 1, 2, 3);
-        clashIs(Due.bench(0, 20, 3, 0, 0, 0, false), null, 1, 2, 5, 7);
-        clashIs(Due.bench(0, 20, 3, 0, 0, 0, false), "(16 20 17 19)", 1, 16, 17, 19, 20);
-        clashIs(Due.bench(1, 7, 3, 0, 0, 0, false), null, 0, 1, 3);
-        clashIs(Due.bench(1, 7, 3, 0, 0, 0, false), "(0 0 3 4)", 0, 3, 4);
-        clashIs(Due.bench(1, 6, 3, 0, 0, 0, false), "(1 1 4 4)", 1, 4);
-        clashIs(Due.bench(1, 7, 3, 0, 0, 0, false), "(0 5 6 6)", 0, 5, 6);
-        clashIs(Due.bench(2, 2, 3, 0, 0, 0, false), null, 0, 1, 3);
-        clashIs(Due.bench(2, 2, 3, 0, 0, 0, false), "(0 0 1 2)", 0, 1, 2);
-        clashIs(Due.bench(2, 2, 3, 0, 0, 0, false), "(0 4 1 3)", 0, 1, 3, 4);
+        Due.clashIs(Due.bench(0, 20, 3, 0, 0, 0, false), "(1 3 2 2)", 1, 2, 3);
+        Due.clashIs(Due.bench(0, 20, 3, 0, 0, 0, true), "(1 3 2 2)", 1, 2, 3);
+        Due.clashIs(Due.bench(0, 20, 3, 0, 0, 0, false), null, 1, 2, 5, 7);
+        Due.clashIs(Due.bench(0, 20, 3, 0, 0, 0, false), "(16 20 17 19)", 1, 16, 17, 19, 20);
+        Due.clashIs(Due.bench(1, 7, 3, 0, 0, 0, false), null, 0, 1, 3);
+        Due.clashIs(Due.bench(1, 7, 3, 0, 0, 0, false), "(0 0 3 4)", 0, 3, 4);
+        Due.clashIs(Due.bench(1, 6, 3, 0, 0, 0, false), "(1 1 4 4)", 1, 4);
+        Due.clashIs(Due.bench(1, 7, 3, 0, 0, 0, false), "(0 5 6 6)", 0, 5, 6);
+        Due.clashIs(Due.bench(2, 2, 3, 0, 0, 0, false), null, 0, 1, 3);
+        Due.clashIs(Due.bench(2, 2, 3, 0, 0, 0, false), "(0 0 1 2)", 0, 1, 2);
+        Due.clashIs(Due.bench(2, 2, 3, 0, 0, 0, false), "(0 4 1 3)", 0, 1, 3, 4);
     }
 
     private static void equations() {
-        clashIs(Due.bench(0, 20, 4, 1, 1, -2, false), "(3 3 3 0)", 3);
-        clashIs(Due.bench(0, 20, 4, 1, 1, -2, true), "(3 7 5 0)", 3, 5, 7);
-        clashIs(Due.bench(0, 20, 4, 1, 1, 1, false), null, 1, 2, 3, 4);
-        clashIs(Due.bench(0, 20, 4, 2, -1, 0, false), "(3 6 0 0)", 3, 6);
-        clashIs(Due.bench(0, 20, 4, 0, 3, -1, false), "(0 2 6 0)", 1, 2, 6);
-        clashIs(Due.bench(0, 20, 4, -1, 0, 3, true), "(6 0 2 0)", 1, 2, 6);
-        clashIs(Due.bench(0, 20, 4, 1, -1, 0, false), "(5 5 0 0)", 5);
-        clashIs(Due.bench(0, 20, 4, 1, -1, 0, true), null, 5, 6);
-        clashIs(Due.bench(0, 60, 4, 9, 9, -9, true), "(20 40 60 0)", 20, 40, 60);
-        clashIs(Due.bench(0, 60, 4, 9, 9, -1, false), null, 50, 60);
-        clashIs(Due.bench(0, 60, 4, -9, 0, 9, false), "(60 0 60 0)", 60);
-        clashIs(Due.bench(0, 60, 4, 9, -9, 0, false), "(60 60 0 0)", 60);
-        clashIs(Due.bench(0, 60, 4, 0, 9, -9, false), "(0 60 60 0)", 60);
-        clashIs(Due.bench(0, 60, 4, -9, 1, 1, false), "(10 30 60 0)", 10, 30, 60);
-        clashIs(Due.bench(1, 6, 4, 2, 2, 2, false), "(1 1 1 0)", 1);
-        clashIs(Due.bench(1, 6, 4, 2, 2, 2, false), "(0 0 0 0)", 0, 1, 2, 5);
-        clashIs(Due.bench(1, 6, 4, 2, 2, 2, true), "(0 1 2 0)", 0, 1, 2, 5);
-        clashIs(Due.bench(1, 6, 4, 6, 6, 0, true), "(2 3 0 0)", 2, 3);
-        clashIs(Due.bench(1, 6, 4, 6, 6, 0, true), null, 3);
-        clashIs(Due.bench(1, 5, 4, -3, 1, 0, false), "(2 1 0 0)", 1, 2);
-        clashIs(Due.bench(1, 5, 4, 0, 1, 1, true), "(0 1 4 0)", 0, 1, 4);
-        clashIs(Due.bench(2, 2, 4, 1, 1, 1, true), "(1 3 8 0)", 1, 3, 8);
-        clashIs(Due.bench(2, 2, 4, 4, -2, 0, true), "(1 2 0 0)", 1, 2);
-        clashIs(Due.bench(2, 2, 4, 3, 1, 0, false), "(0 0 0 0)", 0, 1);
-        clashIs(Due.bench(2, 2, 4, 3, 1, 0, true), "(1 0 0 0)", 0, 1);
+        Due.clashIs(Due.bench(0, 20, 4, 1, 1, -2, false), "(3 3 3 0)", 3);
+        Due.clashIs(Due.bench(0, 20, 4, 1, 1, -2, true), "(3 7 5 0)", 3, 5, 7);
+        Due.clashIs(Due.bench(0, 20, 4, 1, 1, 1, false), null, 1, 2, 3, 4);
+        Due.clashIs(Due.bench(0, 20, 4, 2, -1, 0, false), "(3 6 0 0)", 3, 6);
+        Due.clashIs(Due.bench(0, 20, 4, 0, 3, -1, false), "(0 2 6 0)", 1, 2, 6);
+        Due.clashIs(Due.bench(0, 20, 4, -1, 0, 3, true), "(6 0 2 0)", 1, 2, 6);
+        Due.clashIs(Due.bench(0, 20, 4, 1, -1, 0, false), "(5 5 0 0)", 5);
+        Due.clashIs(Due.bench(0, 20, 4, 1, -1, 0, true), null, 5, 6);
+        Due.clashIs(Due.bench(0, 60, 4, 9, 9, -9, true), "(20 40 60 0)", 20, 40, 60);
+        Due.clashIs(Due.bench(0, 60, 4, 9, 9, -1, false), null, 50, 60);
+        Due.clashIs(Due.bench(0, 60, 4, -9, 0, 9, false), "(60 0 60 0)", 60);
+        Due.clashIs(Due.bench(0, 60, 4, 9, -9, 0, false), "(60 60 0 0)", 60);
+        Due.clashIs(Due.bench(0, 60, 4, 0, 9, -9, false), "(0 60 60 0)", 60);
+        Due.clashIs(Due.bench(0, 60, 4, -9, 1, 1, false), "(10 30 60 0)", 10, 30, 60);
+        Due.clashIs(Due.bench(1, 6, 4, 2, 2, 2, false), "(1 1 1 0)", 1);
+        Due.clashIs(Due.bench(1, 6, 4, 2, 2, 2, false), "(0 0 0 0)", 0, 1, 2, 5);
+        Due.clashIs(Due.bench(1, 6, 4, 2, 2, 2, true), "(0 1 2 0)", 0, 1, 2, 5);
+        Due.clashIs(Due.bench(1, 6, 4, 6, 6, 0, true), "(2 3 0 0)", 2, 3);
+        Due.clashIs(Due.bench(1, 6, 4, 6, 6, 0, true), null, 3);
+        Due.clashIs(Due.bench(1, 5, 4, -3, 1, 0, false), "(2 1 0 0)", 1, 2);
+        Due.clashIs(Due.bench(1, 5, 4, 0, 1, 1, true), "(0 1 4 0)", 0, 1, 4);
+        Due.clashIs(Due.bench(2, 2, 4, 1, 1, 1, true), "(1 3 8 0)", 1, 3, 8);
+        Due.clashIs(Due.bench(2, 2, 4, 4, -2, 0, true), "(1 2 0 0)", 1, 2);
+        Due.clashIs(Due.bench(2, 2, 4, 3, 1, 0, false), "(0 0 0 0)", 0, 1);
+        Due.clashIs(Due.bench(2, 2, 4, 3, 1, 0, true), "(1 0 0 0)", 0, 1);
     }
 
     private static void promise12Order() {
@@ -119,17 +104,17 @@ public final class ClashTest {
         x.law(0, 3, 0, 0, false);
         Due.put(x, 5, 1, 2, 9);
         Due.is("of the least law that has one", x.clash(5), 1);
-        Due.same("witness", witness(x), "(1 1 2 0)");
+        Due.same("witness", Due.witness(x), "(1 1 2 0)");
         Due.put(x, 5, 3);
         Due.is("of the least law", x.clash(5), 0);
-        Due.same("witness", witness(x), "(1 3 2 2)");
+        Due.same("witness", Due.witness(x), "(1 3 2 2)");
         Due.same("the set stays", Due.set(x, 5), "(1 2 3 9)");
         Due.is("another set", x.clash(4), -1);
-        Due.same("the witness stays", witness(x), "(1 3 2 2)");
+        Due.same("the witness stays", Due.witness(x), "(1 3 2 2)");
         for (int k : new int[] {-1, 8, Integer.MAX_VALUE}) {
             Due.throwsIt("clash", IndexOutOfBoundsException.class, () -> x.clash(k));
         }
-        Due.same("the witness stays", witness(x), "(1 3 2 2)");
+        Due.same("the witness stays", Due.witness(x), "(1 3 2 2)");
     }
 
     private static void promise13Witness() {
@@ -147,7 +132,7 @@ public final class ClashTest {
         x.room(1);
         x.drop();
         x.greatest(2, 100);
-        Due.same("it stays", witness(x), "(2 2 4 0)");
+        Due.same("it stays", Due.witness(x), "(2 2 4 0)");
         x.ground(0, 20);
         for (int i = 0; i < 4; i++) {
             int place = i;

@@ -6,26 +6,18 @@ public final class ColourTest {
     private ColourTest() {
     }
 
-    private static String colouring(SumBench x) {
-        StringBuilder text = new StringBuilder();
-        for (int y = x.look(0) == 0 ? 1 : 0; x.colour(y) != -1; y++) {
-            text.append(x.colour(y));
-        }
-        return text.toString();
-    }
-
     private static void promise21Colours() {
         SumBench x = Due.bench(0, 8, 0, 3);
         Due.is("1 .. 8 in two colours", x.colours(2, 50000), 0);
-        Due.same("the first such", colouring(x), "00110011");
+        Due.same("the first such", Due.colouring(x), "00110011");
         Due.is("in one colour", x.colours(1, 50000), 1);
-        Due.same("the latest that was 0", colouring(x), "00110011");
+        Due.same("the latest that was 0", Due.colouring(x), "00110011");
         Due.is("in eight colours", x.colours(8, 50000), 0);
-        Due.same("a new colour comes behind all that are had", colouring(x), "00100112");
+        Due.same("a new colour comes behind all that are had", Due.colouring(x), "00100112");
         Due.is("1 .. 9 in two colours", Due.bench(0, 9, 0, 3).colours(2, 50000), 1);
         SumBench sums = Due.bench(0, 4, 1, 0);
         Due.is("1 .. 4 without sums", sums.colours(2, 500), 0);
-        Due.same("the only one", colouring(sums), "0110");
+        Due.same("the only one", Due.colouring(sums), "0110");
         SumBench rests = Due.bench(1, 5, 1, 0);
         Due.is("0 + 0 = 0 in any colour", rests.colours(8, 500), 1);
         Due.is("the beginning alone is looked at", rests.look(5), 1);
@@ -35,7 +27,7 @@ public final class ColourTest {
         Due.is("a plane by threes in one", caps.colours(1, 50000), 1);
         SumBench free = new SumBench();
         Due.is("without laws", free.colours(8, 50000), 0);
-        Due.same("all are of the first", colouring(free), "00000000000000000000");
+        Due.same("all are of the first", Due.colouring(free), "00000000000000000000");
         Due.is("the beginning and each number", free.look(5), 21);
     }
 
@@ -63,7 +55,7 @@ public final class ColourTest {
             Due.throwsIt("forced", IllegalArgumentException.class, () -> x.forced(many, 5));
         }
         Due.is("looks stay", x.look(5), 6);
-        Due.same("colours stay", colouring(x), "0110");
+        Due.same("colours stay", Due.colouring(x), "0110");
     }
 
     private static void promise22Colour() {
@@ -74,18 +66,18 @@ public final class ColourTest {
             Due.is("colour outside", x.colour(y), -1);
         }
         x.drop();
-        Due.same("it stays with other laws", colouring(x), "0110");
+        Due.same("it stays with other laws", Due.colouring(x), "0110");
         Due.is("one that was spent", x.colours(2, 1), 2);
-        Due.same("it stays", colouring(x), "0110");
+        Due.same("it stays", Due.colouring(x), "0110");
         x.forced(2, 500);
-        Due.same("forced is not colours", colouring(x), "0110");
+        Due.same("forced is not colours", Due.colouring(x), "0110");
         x.colours(3, 500);
-        Due.same("the latest", colouring(x), "0000");
+        Due.same("the latest", Due.colouring(x), "0000");
         x.ground(0, 4);
-        Due.same("gone with the ground", colouring(x), "");
+        Due.same("gone with the ground", Due.colouring(x), "");
         x.ground(1, 3);
         x.colours(1, 500);
-        Due.same("rests", colouring(x), "000");
+        Due.same("rests", Due.colouring(x), "000");
         Due.is("0 is a rest", x.colour(0), 0);
         Due.is("3 is none", x.colour(3), -1);
     }
@@ -101,12 +93,6 @@ public final class ColourTest {
         Due.is("the last can't: n", Due.bench(0, 5, 1, 0).forced(2, 50000), 5);
         Due.is("the first can't", Due.bench(0, 5, 2, 0).forced(2, 50000), 1);
         Due.is("without laws", new SumBench().forced(1, 50000), 21);
-        SumBench x = Due.bench(0, 5, 1, 0);
-        Due.is("just looks enough", x.forced(2, 6), 5);
-        Due.is("looks: 2 + 3 + 4 + 6 + 6", x.look(5), 21);
-        Due.is("one was spent", x.forced(2, 5), -1);
-        Due.is("looks: 2 + 3 + 4 + 5", x.look(5), 14);
-        Due.is("no colours", x.colour(1), -1);
         SumBench rests = Due.bench(1, 5, 0, 3);
         rests.count(50);
         int looks = rests.look(5);

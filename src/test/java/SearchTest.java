@@ -165,47 +165,39 @@ public final class SearchTest {
         Due.is("the next list is not too long", x.list(50000), 1);
     }
 
-    private static String kindsOf(SumBench x, int turns) {
-        StringBuilder text = new StringBuilder();
-        for (int i = 0; i < x.kinds(turns); i++) {
-            text.append('(').append(x.kind(turns, i, 0)).append(' ').append(x.kind(turns, i, 1)).append(' ')
-                .append(x.kind(turns, i, 2)).append(')');
-        }
-        return text.toString();
-    }
-
     private static void promises18And19Kinds() {
         SumBench x = Due.bench(0, 4, 0, 3);
         x.list(500);
-        Due.same("1 2 4 and 1 3 4", kindsOf(x, 0), "(0 1 1)(1 1 1)");
-        Due.same("mirrored", kindsOf(x, 1), "(0 2 1)");
-        Due.same("bits that are nothing", kindsOf(x, 6), "(0 1 1)(1 1 1)");
-        Due.same("all bits", kindsOf(x, 7), "(0 2 1)");
+        Due.same("1 2 4 and 1 3 4", Due.kinds(x, 0), "(0 1 1)(1 1 1)");
+        Due.same("mirrored", Due.kinds(x, 1), "(0 2 1)");
+        Due.same("bits that are nothing", Due.kinds(x, 6), "(0 1 1)(1 1 1)");
+        Due.same("all bits", Due.kinds(x, 7), "(0 2 1)");
         SumBench one = new SumBench();
         one.ground(0, 1);
         one.list(50);
-        Due.same("of one number alone all TURNS are one", kindsOf(one, 1), "(0 1 1)");
+        Due.same("of one number alone all TURNS are one", Due.kinds(one, 1), "(0 1 1)");
         SumBench plane = Due.bench(1, 7, 3, 0);
         Due.is("lists of 7", plane.list(5000), 14);
-        Due.same("0 1 3 moved, 0 1 5 moved", kindsOf(plane, 2), "(0 7 1)(1 7 1)");
-        Due.same("and turned", kindsOf(plane, 3), "(0 14 1)");
-        Due.same("by all factors", kindsOf(plane, 6), "(0 14 3)");
-        Due.same("which has - x", kindsOf(plane, 7), "(0 14 3)");
+        Due.same("0 1 3 moved, 0 1 5 moved", Due.kinds(plane, 2), "(0 7 1)(1 7 1)");
+        Due.same("and turned", Due.kinds(plane, 3), "(0 14 1)");
+        Due.same("by all factors", Due.kinds(plane, 6), "(0 14 3)");
+        Due.same("which has - x", Due.kinds(plane, 7), "(0 14 3)");
         Due.is("- x alone", plane.kinds(1), 7);
         SumBench two = new SumBench();
         two.ground(1, 2);
         two.list(50);
-        Due.same("of two rests - x is x", kindsOf(two, 1) + kindsOf(two, 3) + kindsOf(two, 7), "(0 1 1)(0 1 2)(0 1 2)");
+        Due.same("of two rests - x is x", Due.kinds(two, 1) + Due.kinds(two, 3) + Due.kinds(two, 7),
+            "(0 1 1)(0 1 2)(0 1 2)");
         SumBench eight = new SumBench();
         eight.ground(1, 8);
         eight.list(50);
-        Due.same("factors of 8: 1 3 5 7", kindsOf(eight, 4) + kindsOf(eight, 6) + kindsOf(eight, 1),
+        Due.same("factors of 8: 1 3 5 7", Due.kinds(eight, 4) + Due.kinds(eight, 6) + Due.kinds(eight, 1),
             "(0 1 4)(0 1 32)(0 1 2)");
         SumBench caps = Due.bench(2, 2, 0, 3);
         Due.is("caps of the plane", caps.list(50000), 54);
         Due.is("each about one of 9 middles", caps.kinds(2), 6);
         Due.is("6 of them about 0", caps.kinds(1), 30);
-        Due.same("the first of all", kindsOf(caps, 3).substring(0, 8), "(0 9 2)(");
+        Due.same("the first of all", Due.kinds(caps, 3).substring(0, 8), "(0 9 2)(");
         Due.is("as without 4", caps.kinds(7), 6);
         kindThrows(plane);
     }

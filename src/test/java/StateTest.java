@@ -274,16 +274,8 @@ public final class StateTest {
             Due.is("look, none such", x.look(what), -1);
         }
         x.ground(0, 3);
-        // The beginning; 1, 2, 3 in; then three CASES that stay out and are left.
-        x.greatest(0, 7);
-        Due.is("looks of greatest", x.look(5), 7);
-        x.count(50000);
-        Due.is("looks of count: 1 + 2 + 4 + 8", x.look(5), 15);
         x.list(50000);
-        Due.is("looks of list: both", x.look(5), 14);
         Due.is("sets listed", x.look(4), 1);
-        x.colours(2, 50000);
-        Due.is("looks of colours", x.look(5), 4);
         x.forced(2, 50000);
         Due.is("looks of forced: 2 + 3 + 4", x.look(5), 9);
         x.keep(0, 1);
