@@ -167,6 +167,15 @@ public final class CasesEdgeTest {
         SumBench free = ground(0, 3);
         Due.is("without LAWS", free.colours(8, 50), 0);
         Due.same("all have the first", Due.colouring(free), "000");
+        SumBench pairs = singles(1, 9);
+        Due.is("each rest wants its own", pairs.colours(8, 50), 1);
+        pairs.drop();
+        // Any three rests clash: 1 + 1 + 2 + 4 + 9 + 15 + 15 ways to put none to six of them in three pairs.
+        pairs.law(4, 9, 9, 9, true);
+        Due.is("three pairs are too few for 9", pairs.colours(3, 50), 1);
+        Due.is("COLOURS of the search ahead are not had", pairs.look(5), 47);
+        Due.is("five are enough", pairs.colours(5, 50), 0);
+        Due.same("so", Due.colouring(pairs), "001122334");
     }
 
     private static void thatColourKeeps() {
@@ -237,6 +246,11 @@ public final class CasesEdgeTest {
         Due.same("of one rest", Due.kinds(listedSingles(2, 1), 1), "(0 1 2)(1 2 1)");
         Due.same("of three rests", Due.kinds(listedSingles(2, 3), 3), "(0 27 2)");
         Due.is("of three rests, x to - x", listedSingles(2, 3).kinds(1), 14);
+        SumBench corners = Due.bench(2, 2, 3, 0);
+        Due.is("three corners, not in a row", corners.list(5000), 72);
+        Due.is("9 are moved", corners.kinds(2), 8);
+        Due.is("18 are moved and turned", corners.kinds(3), 4);
+        Due.is("none is its own - x", corners.kinds(1), 36);
     }
 
     private static void othersAreNothing() {

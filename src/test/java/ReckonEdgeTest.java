@@ -90,6 +90,10 @@ public final class ReckonEdgeTest {
         Due.is("of all rests by 60", whole(1, 60).energy(0), 216000);
         Due.is("of all rows of three", whole(2, 3).energy(0), 19683);
         Twins.changes("energy of all", x -> x.energy(3), "146");
+        SumBench again = Twins.laid();
+        Due.is("of all", again.energy(3), 146);
+        Due.is("of two, behind it", again.energy(1), 6);
+        Due.is("of all again", again.energy(3), 146);
     }
 
     private static void asOfApart() {
@@ -172,11 +176,26 @@ public final class ReckonEdgeTest {
         }
     }
 
+    private static void asLongAsLawsAreKept() {
+        int[][] laws = {{0, 3, 0, 0}, {0, 4, 0, 0}, {0, 6, 0, 0}, {1, 0, 0, 0}, {2, 0, 0, 0}, {3, 0, 0, 0},
+            {4, 2, -1, -1}};
+        for (int[] law : laws) {
+            for (int sort = 0; sort < 3; sort++) {
+                SumBench x = Due.bench(sort, sort == 2 ? 3 : 60, law[0], law[1], law[2], law[3], true);
+                String call = "law " + law[0] + ", sort " + sort;
+                // By threes no ROW has more than three unlike ones.
+                boolean clashes = sort < 2 || law[1] < 4;
+                Due.is(call + ": not all come", x.keep(0, 9) < x.look(2), clashes);
+                Due.is(call + ": it KEEPS it", x.clash(0), -1);
+                Due.is(call + ": no other would", x.room(0), -1);
+            }
+        }
+    }
+
     private static void tillAllWereAsked() {
         for (int seed : new int[] {0, 77, 65535}) {
             SumBench x = Due.bench(0, 60, 0, 3);
             x.keep(0, seed);
-            Due.is("it KEEPS them", x.clash(0), -1);
             Due.is("it is full", x.room(0), -1);
             x.drop();
             Due.is("all come without laws", x.keep(0, seed), 60);
@@ -215,6 +234,7 @@ public final class ReckonEdgeTest {
         Due.sentence("27: the seed goes on as (25173 seed + 13849) MOD 65536", ReckonEdgeTest::seedGoesOn);
         Due.sentence("27: of the numbers not yet asked, rising, that with place seed MOD (how many these are)",
             ReckonEdgeTest::placeOfThoseNotYetAsked);
+        Due.sentence("27: as long as LAWS are KEPT with each", ReckonEdgeTest::asLongAsLawsAreKept);
         Due.sentence("27: till all were asked: its size", ReckonEdgeTest::tillAllWereAsked);
         Due.sentence("27: the seed (0 .. 65535); IllegalArgumentException: another seed", ReckonEdgeTest::anotherSeed);
     }

@@ -119,6 +119,11 @@ public final class TermsEdgeTest {
         Due.clashIs(Due.bench(0, 60, 4, -9, 9, 0, true), null, 59, 60);
         Due.clashIs(Due.bench(0, 60, 4, 9, -1, 0, false), "(6 54 0 0)", 6, 7, 54, 60);
         Due.clashIs(Due.bench(0, 60, 4, 9, 1, 0, false), null, 6, 54);
+        Due.clashIs(Due.bench(0, 60, 4, 9, 9, -9, false), "(30 30 60 0)", 30, 60);
+        Due.clashIs(Due.bench(0, 60, 4, -9, -9, 9, false), "(30 30 60 0)", 30, 60);
+        Due.clashIs(Due.bench(0, 60, 4, 9, -9, -9, false), "(60 30 30 0)", 30, 60);
+        Due.clashIs(Due.bench(0, 60, 4, 9, 9, 9, false), null, 1, 30, 60);
+        Due.clashIs(Due.bench(0, 60, 4, -9, -9, -9, false), null, 1, 30, 60);
         Due.clashIs(Due.bench(1, 60, 4, 9, 1, 0, false), "(59 9 0 0)", 9, 59);
         Due.clashIs(Due.bench(1, 60, 4, -9, 1, 0, false), "(59 51 0 0)", 51, 59);
         Due.clashIs(Due.bench(2, 3, 4, 3, 1, 0, true), "(5 0 0 0)", 0, 5);
@@ -188,10 +193,33 @@ public final class TermsEdgeTest {
             Due.clashIs(x, "(2 5 0 0)", steps(2, 3, k));
             Due.clashIs(x, "(2 5 0 0)", steps(2, 3, k + 1));
             Due.clashIs(x, "(" + (60 - 10 * (k - 1)) + " " + (70 - 10 * (k - 1)) + " 0 0)", steps(70 - 10 * k, 10, k));
+            eachOfARow(0, k);
+            eachOfARow(1, k);
+        }
+    }
+
+    /** Of a GROUND that is one ROW, any number may be the last to come: it does not come in. */
+    private static void eachOfARow(int sort, int k) {
+        SumBench x = Due.bench(sort, k, 0, k);
+        int first = sort == 0 ? 1 : 0;
+        for (int last = first; last < first + k; last++) {
             x.sums(7, 7, 0, 0);
-            Due.put(x, 0, steps(60 - (k - 2), 1, k - 1));
-            Due.is("the number ahead of a row does not come in", x.room(0), 1);
-            Due.is("there is a clash with it", x.put(0, 60 - (k - 1), true) ? x.clash(0) : -1, 0);
+            for (int y = first; y < first + k; y++) {
+                x.put(0, y, y != last);
+            }
+            Due.is("ROW of " + k + ", sort " + sort + ": it is full without " + last, x.room(0), -1);
+        }
+    }
+
+    /** Counted by another program, which tries all sets of 1 .. n. */
+    private static void greatestWithoutRows() {
+        int[][] sizes = {{1, 2, 3, 3, 4, 5, 5, 6, 7, 8, 8, 8, 9, 9}, {1, 2, 3, 4, 4, 5, 6, 7, 8, 8, 9, 10, 11, 12},
+            {1, 2, 3, 4, 5, 5, 6, 7, 8, 9, 9, 10, 11, 12}};
+        for (int k = 4; k <= 6; k++) {
+            for (int n = 1; n <= 14; n++) {
+                SumBench x = Due.bench(0, n, 0, k);
+                Due.is("no " + k + " in a row of 1 .. " + n, x.greatest(0, 50000), sizes[k - 4][n - 1]);
+            }
         }
     }
 
@@ -212,6 +240,8 @@ public final class TermsEdgeTest {
         Due.is("all of threes without a row of 4", Due.bench(2, 3, 0, 4).greatest(0, 50000), 27);
         Due.is("both rests by 2 without a row of 3", Due.bench(1, 2, 0, 3).greatest(0, 50), 2);
         Due.is("2 of 4 rests, and no third", Due.bench(1, 4, 0, 3).greatest(0, 50), 2);
+        Due.is("2 of one rest by 3", Due.bench(2, 1, 0, 3).greatest(0, 50), 2);
+        Due.is("4 of two rests by 3", Due.bench(2, 2, 0, 3).greatest(0, 5000), 4);
     }
 
     private static void rowsGoOn() {
@@ -219,6 +249,7 @@ public final class TermsEdgeTest {
         Due.clashIs(Due.bench(0, 20, 0, 3), null, 1, 2, 20);
         Due.clashIs(Due.bench(1, 60, 0, 3), "(0 59 0 0)", 58, 59, 0);
         Due.clashIs(Due.bench(1, 60, 0, 3), "(1 59 0 0)", 57, 59, 1);
+        Due.clashIs(Due.bench(1, 6, 0, 4), "(1 0 0 0)", 0, 1, 4, 5);
         Due.clashIs(Due.bench(2, 3, 0, 3), "(0 13 0 0)", 0, 13, 26);
     }
 
@@ -234,6 +265,9 @@ public final class TermsEdgeTest {
         Due.clashIs(Due.bench(1, 9, 1, 0, 0, 0, true), null, 0, 1);
         Due.is("2 3 and then 7: not 4, 5, 6", roomBehind23(false), 7);
         Due.is("2 3 and then 4, of unlike ones", roomBehind23(true), 4);
+        SumBench rests = Due.bench(1, 7, 1, 0, 0, 0, true);
+        Due.put(rests, 0, 0, 1, 2);
+        Due.is("0 1 2 and then 4, of unlike rests: not 3, for 1 + 2", rests.room(0), 4);
     }
 
     private static int roomBehind23(boolean unlike) {
@@ -258,6 +292,8 @@ public final class TermsEdgeTest {
         Due.clashIs(Due.bench(0, 20, 3, 0), "(1 3 2 2)", 1, 2, 3);
         Due.clashIs(Due.bench(0, 20, 3, 0), "(1 9 2 8)", 1, 2, 8, 9);
         Due.clashIs(Due.bench(1, 7, 3, 0), "(0 0 3 4)", 0, 3, 4);
+        Due.clashIs(Due.bench(1, 2, 3, 0), "(0 0 1 1)", 0, 1);
+        Due.clashIs(Due.bench(1, 60, 3, 0), "(29 29 59 59)", 29, 59);
         Due.is("2 of 3 numbers", Due.bench(0, 3, 3, 0).greatest(0, 50), 2);
         Due.is("1 of 2 rests", Due.bench(1, 2, 3, 0).greatest(0, 50), 1);
     }
@@ -322,6 +358,32 @@ public final class TermsEdgeTest {
         Due.clashIs(Due.bench(1, 4, 4, 1, 2, 0, true), "(0 2 0 0)", 0, 2);
         Due.clashIs(Due.bench(1, 4, 4, 0, 1, 2, true), "(0 0 2 0)", 0, 2);
         Due.clashIs(Due.bench(1, 4, 4, 1, 0, 2, true), "(0 0 2 0)", 0, 2);
+        Due.clashIs(Due.bench(1, 4, 4, 0, 2, 1, true), "(0 2 0 0)", 0, 2);
+        Due.clashIs(Due.bench(1, 4, 4, 2, 0, 1, true), "(2 0 0 0)", 0, 2);
+        Due.clashIs(Due.bench(1, 4, 4, 2, 1, 0, true), "(2 0 0 0)", 0, 2);
+    }
+
+    /** 7 = 2 2 + 3 1 is the only CLASH of 1 .. 7, wherever x, y and z stand, and whichever comes last. */
+    private static void wholeClashAlone() {
+        int[][] laws = {{1, -2, -3}, {1, -3, -2}, {-2, 1, -3}, {-3, 1, -2}, {-2, -3, 1}, {-3, -2, 1}};
+        for (int[] law : laws) {
+            SumBench x = Due.bench(0, 7, 4, law[0], law[1], law[2], true);
+            for (int last = 1; last <= 7; last++) {
+                x.sums(7, 7, 0, 0);
+                for (int y = 1; y <= 7; y++) {
+                    x.put(0, y, y != last);
+                }
+                boolean ofIt = last == 1 || last == 2 || last == 7;
+                Due.is("clash without " + last, x.clash(0), ofIt ? -1 : 0);
+                Due.is("room without " + last, x.room(0), ofIt ? -1 : -2);
+            }
+        }
+        // Counted by another program, which tries all sets: here x and y may have several z.
+        Due.is("x + y + 3 z by 9", Due.bench(1, 9, 4, 1, 1, 3, true).count(5000), 130);
+        Due.is("x + 3 y + z by 9", Due.bench(1, 9, 4, 1, 3, 1, true).count(5000), 130);
+        Due.is("3 x + y + z by 9", Due.bench(1, 9, 4, 3, 1, 1, true).count(5000), 130);
+        Due.is("3 x + 3 y + 3 z by 9", Due.bench(1, 9, 4, 3, 3, 3, true).count(5000), 127);
+        Due.is("2 x + 4 y + 4 z by 8", Due.bench(1, 8, 4, 2, 4, 4, true).count(5000), 68);
     }
 
     private static void noClashOfAny() {
@@ -371,6 +433,8 @@ public final class TermsEdgeTest {
             TermsEdgeTest::orderOfSets);
         Due.sentence("LAWS, 0 .. 5, told one behind another", TermsEdgeTest::lawsInTurn);
         Due.sentence("ROW of k (3 to 6)", TermsEdgeTest::rowOfSoMany);
+        Due.sentence("LAWS forbid to have in a set all numbers of a CLASH (ROW)", TermsEdgeTest::greatestWithoutRows);
+        Due.sentence("LAWS forbid to have in a set all numbers of a CLASH (EQUATION)", TermsEdgeTest::wholeClashAlone);
         Due.sentence("x, x + d, .. , x + (k - 1) d, all unlike", TermsEdgeTest::rowOfUnlikeOnes);
         Due.sentence("of sort 0: d above 0; told as (x, x + d, 0, 0)", TermsEdgeTest::rowsGoOn);
         Due.sentence("x may be y, unless the LAW is of unlike ones: then x, y, z are all unlike",
