@@ -8,12 +8,6 @@ public final class CasesEdgeTest {
         int by(int looks);
     }
 
-    private static SumBench ground(int sort, int n) {
-        SumBench x = new SumBench();
-        Due.is("ground(" + sort + ", " + n + ")", x.ground(sort, n), true);
-        return x;
-    }
-
     /** Any two unlike numbers clash, so that each set listed has one number alone: n up to 9 of sort 1, sort 2. */
     private static SumBench singles(int sort, int n) {
         int zero = sort == 1 ? n : 3;
@@ -28,7 +22,7 @@ public final class CasesEdgeTest {
     }
 
     private static void eachIsOneLook() {
-        SumBench x = ground(0, 3);
+        SumBench x = Due.withSet(0, 3);
         x.greatest(0, 50000);
         Due.is("the beginning, three that come in, three left", x.look(5), 7);
         x.count(50000);
@@ -49,7 +43,7 @@ public final class CasesEdgeTest {
     }
 
     private static void oneMoreThanTold() {
-        SumBench x = ground(0, 3);
+        SumBench x = Due.withSet(0, 3);
         needs("greatest", looks -> x.greatest(0, looks), 7, 3, -4);
         needs("count", x::count, 15, 8, -1);
         needs("list", x::list, 7, 1, -1);
@@ -131,7 +125,7 @@ public final class CasesEdgeTest {
         Due.put(none, 0, 1);
         Due.is("of no number", none.listed(0, 0), 0);
         Due.same("the empty set", Due.set(none, 0), "()");
-        SumBench all60 = ground(0, 60);
+        SumBench all60 = Due.withSet(0, 60);
         Due.is("all numbers", all60.list(50000), 1);
         Due.is("of all 60", all60.listed(0, 0), 60);
     }
@@ -164,7 +158,7 @@ public final class CasesEdgeTest {
         Due.is("1 has but COLOUR 0: 6 LOOKS", x.look(5), 6);
         Due.is("1 .. 5 in three", x.colours(3, 50), 0);
         Due.same("4 has the third, then 5 one that is had", Due.colouring(x), "01020");
-        SumBench free = ground(0, 3);
+        SumBench free = Due.withSet(0, 3);
         Due.is("without LAWS", free.colours(8, 50), 0);
         Due.same("all have the first", Due.colouring(free), "000");
         SumBench pairs = singles(1, 9);
@@ -190,13 +184,13 @@ public final class CasesEdgeTest {
         SumBench x = Due.bench(0, 20, 2, 0);
         x.colours(8, 50);
         Due.is("it alone", x.look(5), 1);
-        SumBench free = ground(0, 1);
+        SumBench free = Due.withSet(0, 1);
         Due.is("one number by one LOOK", free.colours(1, 1), 2);
         Due.is("one number by two", free.colours(1, 2), 0);
     }
 
     private static void noNumberToComeEndsIt() {
-        SumBench x = ground(0, 60);
+        SumBench x = Due.withSet(0, 60);
         Due.is("60 numbers by 61 LOOKS", x.colours(8, 61), 0);
         Due.is("no other is looked at", x.look(5), 61);
         Due.is("60 numbers by 60", x.colours(8, 60), 2);
@@ -206,7 +200,7 @@ public final class CasesEdgeTest {
         SumBench x = Due.bench(0, 3, 0, 3);
         x.list(50);
         Due.same("1 2 to 2 3, 1 3 stays", Due.kinds(x, 1), "(0 2 1)(1 1 2)");
-        SumBench all = ground(0, 60);
+        SumBench all = Due.withSet(0, 60);
         all.list(50000);
         Due.same("all 60 stay", Due.kinds(all, 1), "(0 1 2)");
         SumBench two = Due.bench(0, 2, 1, 0);
@@ -230,7 +224,7 @@ public final class CasesEdgeTest {
         Due.same("by 6: 1 5", Due.kinds(listedSingles(1, 6), 4), "(0 1 2)(1 2 1)(2 2 1)(3 1 2)");
         Due.same("by 8: 1 3 5 7", Due.kinds(listedSingles(1, 8), 4), "(0 1 4)(1 4 1)(2 2 2)(4 1 4)");
         Due.same("by 9: 1 2 4 5 7 8", Due.kinds(listedSingles(1, 9), 4), "(0 1 6)(1 6 1)(3 2 3)");
-        SumBench all = ground(1, 60);
+        SumBench all = Due.withSet(1, 60);
         all.list(50000);
         Due.same("by 60: 16 factors", Due.kinds(all, 4), "(0 1 16)");
         all.ground(1, 59);
@@ -271,14 +265,14 @@ public final class CasesEdgeTest {
         int[][] many = {{60, 1, 2, 60, 120, 16, 16, 960, 960}, {3, 1, 2, 3, 6, 2, 2, 6, 6},
             {5, 1, 2, 5, 10, 4, 4, 20, 20}};
         for (int[] row : many) {
-            SumBench x = ground(1, row[0]);
+            SumBench x = Due.withSet(1, row[0]);
             x.list(50000);
             for (int turns = 0; turns < 8; turns++) {
                 Due.is("TURNS " + turns + " of rests by " + row[0], x.kind(turns, 0, 2), row[turns + 1]);
             }
         }
         int[] rows = {1, 2, 27, 54, 1, 2, 27, 54};
-        SumBench x = ground(2, 3);
+        SumBench x = Due.withSet(2, 3);
         x.list(50000);
         for (int turns = 0; turns < 8; turns++) {
             Due.is("TURNS " + turns + " of three rests", x.kind(turns, 0, 2), rows[turns]);
