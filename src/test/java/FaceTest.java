@@ -7,16 +7,23 @@ import java.nio.file.Files;
 import java.nio.file.Path;
 import java.util.Arrays;
 import java.util.TreeSet;
+import java.util.stream.Collectors;
 
 /** The public face is the document's and no more, and the source has none of the words that LANGUAGE.md rules out. */
 public final class FaceTest {
+    private static final String NO_SET = " throws IndexOutOfBoundsException";
+    private static final String NOT_ALLOWED = " throws IllegalArgumentException";
+    private static final String BOTH = " throws IndexOutOfBoundsException,IllegalArgumentException";
     private static final String[] METHODS = {
-        "int feed(int,int,int,int,int)", "boolean end(int)", "boolean ground(int,int)", "int sheet(int,int)",
-        "boolean put(int,int,boolean)", "boolean has(int,int)", "int size(int)", "int at(int,int)",
-        "int law(int,int,int,int,boolean)", "int drop()", "int clash(int)", "int witness(int)", "int room(int)",
-        "int greatest(int,int)", "int list(int)", "int listed(int,int)", "int kinds(int)", "int kind(int,int,int)",
-        "int count(int)", "int colours(int,int)", "int colour(int)", "int forced(int,int)", "int sums(int,int,int,int)",
-        "int energy(int)", "int order(int)", "int keep(int,int)", "int look(int)"
+        "int feed(int,int,int,int,int)", "boolean end(int)", "boolean ground(int,int)", "int sheet(int,int)" + BOTH,
+        "boolean put(int,int,boolean)" + NO_SET, "boolean has(int,int)" + NO_SET, "int size(int)" + NO_SET,
+        "int at(int,int)" + NO_SET + ",NoSuchElementException", "int law(int,int,int,int,boolean)", "int drop()",
+        "int clash(int)" + NO_SET, "int witness(int) throws NoSuchElementException", "int room(int)" + NO_SET,
+        "int greatest(int,int)" + BOTH, "int list(int)" + NOT_ALLOWED, "int listed(int,int)" + NO_SET,
+        "int kinds(int)" + NOT_ALLOWED, "int kind(int,int,int)" + NOT_ALLOWED, "int count(int)" + NOT_ALLOWED,
+        "int colours(int,int)" + NOT_ALLOWED, "int colour(int)", "int forced(int,int)" + NOT_ALLOWED,
+        "int sums(int,int,int,int)" + NO_SET, "int energy(int)" + NO_SET, "int order(int)" + NO_SET,
+        "int keep(int,int)" + BOTH, "int look(int)"
     };
     private static final String[] RULED_OUT = {
         "->", "::", "Exact(", "finally", "synchronized", "assert ", "volatile", "catch", "getMessage", "hashCode",
@@ -27,13 +34,14 @@ public final class FaceTest {
     private FaceTest() {
     }
 
+    private static String names(Class<?>[] types) {
+        return Arrays.stream(types).map(Class::getSimpleName).collect(Collectors.joining(","));
+    }
+
     private static String told(Method method) {
-        StringBuilder text = new StringBuilder(method.getReturnType().getName());
-        text.append(' ').append(method.getName()).append('(');
-        for (Class<?> type : method.getParameterTypes()) {
-            text.append(text.charAt(text.length() - 1) == '(' ? "" : ",").append(type.getName());
-        }
-        return text.append(')').toString();
+        String thrown = names(method.getExceptionTypes());
+        return names(new Class<?>[] {method.getReturnType()}) + " " + method.getName() + "("
+            + names(method.getParameterTypes()) + ")" + (thrown.isEmpty() ? "" : " throws " + thrown);
     }
 
     private static void members() {
@@ -91,10 +99,43 @@ public final class FaceTest {
         }
     }
 
+    /** Rule 11, as far as it can be counted here: classes, fields beside constants, parameters. */
+    private static void sizes() {
+        Class<?>[] inside = SumBench.class.getDeclaredClasses();
+        Due.is("more than twelve classes", inside.length + 1 > 12, false);
+        sizesOf(SumBench.class);
+        for (Class<?> one : inside) {
+            sizesOf(one);
+        }
+    }
+
+    private static void sizesOf(Class<?> one) {
+        int fields = 0;
+        for (Field field : one.getDeclaredFields()) {
+            fields += Modifier.isStatic(field.getModifiers()) ? 0 : 1;
+        }
+        Due.is("more than twenty fields in " + one, fields > 20, false);
+        for (Method method : one.getDeclaredMethods()) {
+            Due.is("more than seven parameters of " + method, method.getParameterCount() > 7, false);
+        }
+    }
+
+    /** README.md says that no call makes an array or an object: each is made with a field, or in a loop of Laws(..). */
+    private static void makers() throws IOException {
+        for (String line : Files.readAllLines(Path.of("src/main/java/SumBench.java"))) {
+            String code = line.strip();
+            if (code.contains("new ") && !code.startsWith("throw new ")) {
+                Due.is(code, code.startsWith("private final ") || code.equals("rows[i] = new Law();"), true);
+            }
+        }
+    }
+
     public static void main(String[] args) throws IOException {
         members();
         others();
         source();
+        sizes();
+        makers();
         Due.end("FaceTest");
     }
 }

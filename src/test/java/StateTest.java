@@ -226,9 +226,9 @@ public final class StateTest {
 
     private static void promise10Law() {
         SumBench x = new SumBench();
-        int[][] wrong = {{-1, 3, 1, 1}, {5, 3, 1, 1}, {0, 2, 0, 0}, {0, 7, 0, 0}, {0, -3, 0, 0}, {4, 0, 0, 0}, {4, 1, 0, 0},
-            {4, 0, 1, 0}, {4, 0, 0, 1}, {4, 10, 1, 1}, {4, 1, 10, 1}, {4, 1, 1, 10}, {4, -10, 1, 1}, {4, 1, -10, 1},
-            {4, 1, 1, -10}, {4, Integer.MIN_VALUE, 1, 1}, {Integer.MAX_VALUE, 3, 1, 1}};
+        int[][] wrong = {{-1, 3, 1, 1}, {5, 3, 1, 1}, {0, 2, 0, 0}, {0, 7, 0, 0}, {0, -3, 0, 0}, {4, 0, 0, 0},
+            {4, 1, 0, 0}, {4, 0, 1, 0}, {4, 0, 0, 1}, {4, 10, 1, 1}, {4, 1, 10, 1}, {4, 1, 1, 10}, {4, -10, 1, 1},
+            {4, 1, -10, 1}, {4, 1, 1, -10}, {4, Integer.MIN_VALUE, 1, 1}, {Integer.MAX_VALUE, 3, 1, 1}};
         for (int[] law : wrong) {
             Due.is("law " + java.util.Arrays.toString(law), x.law(law[0], law[1], law[2], law[3], false), -1);
             Due.is("no law of it", x.look(3), 0);
@@ -269,7 +269,8 @@ public final class StateTest {
         x.ground(2, 3);
         x.law(0, 3, 0, 0, false);
         x.feed(0, 0, 0, 0, 0);
-        Due.same("look", x.look(0) + " " + x.look(1) + " " + x.look(2) + " " + x.look(3) + " " + x.look(6), "2 3 27 1 20");
+        Due.same("look", x.look(0) + " " + x.look(1) + " " + x.look(2) + " " + x.look(3) + " " + x.look(6),
+            "2 3 27 1 20");
         for (int what : new int[] {-1, 7, 8, Integer.MIN_VALUE, Integer.MAX_VALUE}) {
             Due.is("look, none such", x.look(what), -1);
         }
