@@ -2,6 +2,7 @@ import java.math.BigInteger;
 import java.util.ArrayList;
 import java.util.Arrays;
 import java.util.List;
+import java.util.NoSuchElementException;
 
 /**
  * Calls of several promises on one object: what one call answers must agree with what others answer, whatever the
@@ -56,8 +57,12 @@ public final class MeetingTest {
 
     private static void tellLaws(SumBench x, int[] laws) {
         for (int i = 0; i < laws.length; i += 5) {
-            Due.is("law", x.law(laws[i], laws[i + 1], laws[i + 2], laws[i + 3], laws[i + 4] == 1), i / 5);
+            tellLaw(x, laws, i);
         }
+    }
+
+    private static void tellLaw(SumBench x, int[] laws, int i) {
+        Due.is("law", x.law(laws[i], laws[i + 1], laws[i + 2], laws[i + 3], laws[i + 4] == 1), i / 5);
     }
 
     /** The numbers of the GROUND, rising. */
@@ -359,9 +364,11 @@ public final class MeetingTest {
         StringBuilder text = new StringBuilder();
         text.append(x.count(MOST_LOOKS)).append(' ').append(x.greatest(0, MOST_LOOKS)).append(Due.set(x, 0));
         text.append(x.look(5)).append(' ').append(x.list(MOST_LOOKS)).append(' ').append(x.look(5));
-        for (int turns = 0; turns < 8; turns++) {
+        for (int turns = 7; turns >= 0; turns--) {
             text.append(' ').append(x.kinds(turns));
         }
+        // The TURNS asked for last are those asked for first in another listing: nothing of this one may be told there.
+        text.append(' ').append(x.kinds(7));
         text.append(' ').append(x.colours(2, MOST_LOOKS)).append(' ').append(x.look(5)).append(Due.colouring(x));
         text.append(' ').append(x.keep(1, 77)).append(Due.set(x, 1)).append(x.room(1));
         text.append(' ').append(x.sums(0, 1, 2, 2)).append(Due.set(x, 2)).append(x.energy(2));
@@ -373,7 +380,26 @@ public final class MeetingTest {
     private static void behindAnotherGround(int[] ground, int[] laws) {
         SumBench x = made(new int[] {2, 2}, new int[] {3, 0, 0, 0, 0, 0, 3, 0, 0, 0});
         answers(x);
+        x.colours(8, MOST_LOOKS);
         lay(x, ground, laws);
+        Due.is("look(4)", x.look(4), 0);
+        Due.same("colours", Due.colouring(x), "");
+        Due.throwsIt("witness(0)", NoSuchElementException.class, () -> x.witness(0));
+        for (int k = 0; k < 8; k++) {
+            Due.is("size", x.size(k), 0);
+        }
+        Due.same(told("answers", ground, laws), answers(x), answers(made(ground, laws)));
+    }
+
+    /** Each LAW counts from the call on that tells it, also where a search was made by those ahead of it. */
+    private static void lawsOneByOne(int[] ground, int[] laws) {
+        SumBench x = made(ground, new int[] {});
+        for (int i = 0; i < laws.length; i += 5) {
+            x.count(MOST_LOOKS);
+            x.list(MOST_LOOKS);
+            x.kinds(7);
+            tellLaw(x, laws, i);
+        }
         Due.same(told("answers", ground, laws), answers(x), answers(made(ground, laws)));
     }
 
@@ -492,6 +518,7 @@ public final class MeetingTest {
         Due.sentence("26 and 24: order() is how many sums it takes", MeetingTest::orderAndSums);
         everywhere("4 and all: nothing of an earlier GROUND is left", MeetingTest::behindAnotherGround);
         everywhere("11, 10 and all: nothing of earlier LAWS is left", MeetingTest::behindOtherLaws);
+        everywhere("10 and all: a LAW counts from then on", MeetingTest::lawsOneByOne);
         Due.sentence("10, 11 and all: one LAW more", MeetingTest::oneLawMore);
         Due.sentence("2, 4 and 5: the tape and the GROUND", MeetingTest::tapeAndGround);
         Due.sentence("28 and all searches: LOOKS", MeetingTest::looksOfEach);
